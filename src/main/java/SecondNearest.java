@@ -43,7 +43,7 @@ public final class SecondNearest {
     private static final int FAULT_CLAUSE = 4;
     private static final int FAULT_PLACE = 5;
 
-    /** The signs of a LAW's code: WORDS of a PERSON as the reader lists them, what works on values, NUMBERS from NUMBER on. */
+    /** The signs of a LAW's code: WORDS of a PERSON as the reader lists them, what works on values, then NUMBERS. */
     private static final int WORD_X = 0;
     private static final int WORD_Y = 1;
     private static final int WORD_AGE = 2;
@@ -449,7 +449,7 @@ public final class SecondNearest {
             return true;
         }
 
-        /** Takes a word, as far as small letters go on: its number in a list; NONE, and it stays, if it is not there. */
+        /** Takes a word, as far as small letters go on: its number in a list; NONE, and it stays, if it isn't there. */
         int takeWord(String list) {
             int start = skip();
             int end = start;
@@ -1439,13 +1439,23 @@ public final class SecondNearest {
             return elsewhere;
         }
 
+        /** More than these can't be OUT behind n STEPS, wherever HERALDS stand: a STEP is one CELL at most. */
+        private int boundOfOut(int n) {
+            int bound = now.outCount;
+            for (int person = 0; person < PEOPLE; person++) {
+                int place = now.at[person];
+                bound += place >= 0 && Math.max(1, ground.toGate[place]) <= n ? 1 : 0;
+            }
+            return bound;
+        }
+
         int findPost(Law law, int n, int what) {
             trial.copyAll(now);
             int home = now.at[PEOPLE];
+            int bound = boundOfOut(n);
             int post = home;
             int most = NONE;
-            // with all OUT no later CELL can be better
-            for (int place = 0; place < CELLS && most < now.people; place++) {
+            for (int place = 0; place < CELLS && most < bound; place++) {
                 if (place != home && !now.isFree(place % SIDE, place / SIDE)) {
                     continue;
                 }
@@ -1465,9 +1475,10 @@ public final class SecondNearest {
                 return NONE;
             }
             trial.copyAll(now);
+            int bound = boundOfOut(n + m);
             int best = 0;
             int most = NONE;
-            for (int course = 0; course < COURSES[n] && most < now.people; course++) {
+            for (int course = 0; course < COURSES[n] && most < bound; course++) {
                 int out = tryCourse(law, course, n, m);
                 if (out > most) {
                     most = out;
@@ -1501,6 +1512,10 @@ public final class SecondNearest {
         }
 
         int findWall(Law law, int n) {
+            // one WALL more makes no way to a GATE shorter
+            if (boundOfOut(n) < now.people) {
+                return NOTHING;
+            }
             trial.copyAll(now);
             int found = NOTHING;
             for (int place = 0; place < CELLS && found < 0; place++) {

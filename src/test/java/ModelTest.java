@@ -3,7 +3,8 @@ import java.util.List;
 
 /** Runs of calls, always the same ones, on the class and on the model: every answer must be alike. */
 public final class ModelTest {
-    private static final int RUNS = 150;
+    private static final int RUNS = 200;
+    private static final int TEXT_RUNS = 1500;
 
     private long seed;
     private SecondNearest real;
@@ -49,7 +50,7 @@ public final class ModelTest {
             s.append(y == 0 ? "" : ";").append("row ");
             for (int x = 0; x < columns; x++) {
                 char c = signs[style].charAt(any(10));
-                c = c == 'G' && !one(3) ? '.' : c;
+                c = c == 'G' && one(2) ? '.' : c;
                 s.append(c);
                 if (c == '.' || c == 'G' && one(2)) {
                     free.add(new int[] {x, y});
@@ -70,11 +71,11 @@ public final class ModelTest {
     private String aPlain() {
         int style = any(5);
         if (one(3)) {
-            return aPlain(1 + any(6), 1 + any(6), any(4), any(3), style);
+            return aPlain(1 + any(6), 1 + any(6), one(5) ? 0 : 1 + any(3), any(3), style);
         }
-        int columns = 1 + any(12);
-        int rows = 1 + any(12);
-        return aPlain(columns, rows, one(5) ? 12 : any(9), any(3), style);
+        int columns = 2 + any(one(4) ? 11 : 6);
+        int rows = 2 + any(one(4) ? 11 : 5);
+        return aPlain(columns, rows, one(5) ? 12 : 2 + any(6), any(3), style);
     }
 
     private String aValue() {
@@ -110,6 +111,12 @@ public final class ModelTest {
     }
 
     private String aLaw() {
+        if (one(3)) {
+            String[] simple = {"follow 2", "follow 1", "follow 3;follow 2", "follow 1 if gate > 3;follow 2",
+                "follow 2 if elder = 0;follow 1", "stand if beside > 1;follow 2", "follow 3 if seen > 2;follow 1 if near > 2;stand",
+                "follow 1 if x+y=x+y and not age % 2 = 1;follow 2", "stand if gate <= near;follow 2 if x % 2 = 0;follow 1"};
+            return simple[any(simple.length)];
+        }
         StringBuilder s = new StringBuilder();
         int clauses = one(30) ? 13 : 1 + any(4);
         for (int i = 0; i < clauses; i++) {
@@ -118,6 +125,57 @@ public final class ModelTest {
             if (i < clauses - 1 || one(2)) {
                 s.append(" if ").append(aTest(0));
             }
+        }
+        return s.toString();
+    }
+
+    /** A LAW about the limits of depth, size and CLAUSES. */
+    private String aLargeLaw() {
+        StringBuilder s = new StringBuilder();
+        int how = any(3);
+        if (how == 0) {
+            int depth = 9 + any(4);
+            int brackets = 0;
+            s.append("stand if ").append(one(2) ? "x=1 or " : "");
+            for (int i = 0; i < depth; i++) {
+                boolean not = one(2);
+                s.append(not ? "not " : "[").append(!not && one(3) ? "y=2 and " : "");
+                brackets += not ? 0 : 1;
+            }
+            s.append("x<3");
+            for (int i = 0; i < brackets; i++) {
+                s.append("]");
+            }
+        } else if (how == 1) {
+            s.append("follow 1 if 1");
+            for (int i = 1 + any(3); i < 60; i++) {
+                boolean sign = one(6);
+                s.append(sign ? "=2 or 3" : "+1");
+                i += sign ? 2 : 0;
+            }
+            s.append(one(2) ? "=x" : "<zz");
+        } else {
+            for (int i = 10 + any(4); i > 0; i--) {
+                s.append(one(2) ? "stand" : "follow 3").append(i > 1 ? ";" : "");
+            }
+            s.append(one(3) ? ";stnd" : "");
+        }
+        return s.toString();
+    }
+
+    /** A PLAIN about the limits of rows, PEOPLE and HERALDS. */
+    private String aLargePlain() {
+        StringBuilder s = new StringBuilder("row ....");
+        int rows = one(3) ? 11 + any(3) : 1 + any(5);
+        for (int i = 1; i < rows; i++) {
+            s.append(";row ....").append(one(40) ? "." : "");
+        }
+        int people = one(2) ? 11 + any(3) : any(5);
+        for (int i = 0; i < people; i++) {
+            s.append(";person ").append(i % 4).append(' ').append(i / 4).append(" 5 ").append(any(10));
+        }
+        for (int i = any(4); i > 0; i--) {
+            s.append(";herald ").append(i).append(' ').append(one(3) ? 0 : Math.min(rows, 12) - 1);
         }
         return s.toString();
     }
@@ -159,15 +217,13 @@ public final class ModelTest {
         same("end(" + n + ") '" + text + "'", real.end(n), model.end(n));
     }
 
-    private void tellPlain() {
-        String text = aPlain();
-        tell(one(4) ? spoiled(text) : text);
+    private void tellPlain(String text) {
+        tell(text);
         same("plain()", real.plain(), model.plain());
     }
 
-    private void tellLaw() {
-        String text = aLaw();
-        tell(one(3) ? spoiled(text) : text);
+    private void tellLaw(String text) {
+        tell(text);
         same("law()", real.law(), model.law());
     }
 
@@ -188,7 +244,7 @@ public final class ModelTest {
     }
 
     private int somebody() {
-        return one(3) ? within(12, 13) : one(8) ? within(0, 14) : any(Math.max(1, real.count(2)));
+        return one(4) ? 12 + any(2) : one(15) ? within(0, 14) : any(Math.max(1, real.count(2)));
     }
 
     private void look() {
@@ -233,12 +289,12 @@ public final class ModelTest {
                 break;
             case 6:
                 if (real.count(7) < 6 || one(20)) {
-                    tellLaw();
+                    tellLaw(one(4) ? spoiled(aLaw()) : aLaw());
                 }
                 break;
             default:
                 if (one(4)) {
-                    tellPlain();
+                    tellPlain(one(6) ? spoiled(aPlain()) : aPlain());
                 }
         }
     }
@@ -285,7 +341,7 @@ public final class ModelTest {
     private void askDearly(int law, int t, int w, int w1) {
         int n = one(8) ? within(0, 3) : any(3);
         int m = one(8) ? within(0, 12) : any(5);
-        switch (any(12)) {
+        switch (any(7)) {
             case 0:
                 same("post(" + law + "," + t + "," + w1 + ")", real.post(law, t, w1), model.post(law, t, w1));
                 break;
@@ -307,11 +363,11 @@ public final class ModelTest {
         real = new SecondNearest();
         model = new Model();
         made = 0;
-        for (int i = 0; i < 2 + any(3); i++) {
-            tellLaw();
+        for (int i = 0; i < 10 && real.count(7) < 1 + number % 4; i++) {
+            tellLaw(aLaw());
         }
-        if (!one(12)) {
-            tellPlain();
+        for (int i = 0; i < 5 && real.count(1) == 0 && number % 20 != 0; i++) {
+            tellPlain(aPlain());
         }
         for (int i = 0; i < 70 && made < 440 && wrong == 0; i++) {
             int how = any(3);
@@ -325,11 +381,30 @@ public final class ModelTest {
         }
     }
 
+    private void runTexts(int number) {
+        seed = number * 1000033L + 5;
+        real = new SecondNearest();
+        model = new Model();
+        for (int i = 0; i < 12 && wrong == 0; i++) {
+            boolean asLaw = one(2);
+            String text = asLaw ? one(2) ? aLaw() : aLargeLaw() : one(2) ? aPlain() : aLargePlain();
+            text = one(3) ? text : spoiled(text);
+            if (asLaw) {
+                tellLaw(text);
+            } else {
+                tellPlain(text);
+            }
+        }
+    }
+
     public static void main(String[] args) {
         int from = args.length > 0 ? Integer.parseInt(args[0]) : 0;
         int runs = args.length > 1 ? Integer.parseInt(args[1]) : RUNS;
         for (int i = from; i < from + runs && wrong == 0; i++) {
             new ModelTest().run(i);
+        }
+        for (int i = from; i < from + TEXT_RUNS && wrong == 0; i++) {
+            new ModelTest().runTexts(i);
         }
         System.out.println(compared + " answers compared, " + wrong + " unlike");
         if (wrong != 0) {
