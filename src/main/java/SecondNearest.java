@@ -535,9 +535,7 @@ public final class SecondNearest {
         final int[] spoorOther = new int[SPOORS];
 
         Scene() {
-            Arrays.fill(standing, (byte) NONE);
-            Arrays.fill(at, NONE);
-            Arrays.fill(out, NONE);
+            wipe();
         }
 
         void wipe() {

@@ -205,6 +205,10 @@ public final class PromiseTest {
         due("a seventh", s.law(), NONE);
         due("the TAPE stays", s.count(8), 8);
         goodLaw(" follow9if x<1and not[y>=2or 1 <=seen];stand ");
+        SecondNearest after = on("row ..;person 0 0 1 1;herald 1 0");
+        law(after, "stand if 1=2;follow 1;follow 1;follow 1;");
+        law(after, "follow 1 if 1=2");
+        due("nothing is left of a text with a FAULT", after.follows(0, 0), -2);
         goodLaw("stand if 00001 = 99999");
         goodLaw("stand" + times(";stand", 11));
         goodLaw("stand if " + times("[", 10) + "x=1" + times("]", 10));
@@ -233,6 +237,8 @@ public final class PromiseTest {
         lawFault("stand if x+[y=1]", 11, 0);
         lawFault("stand if [0-7]/2=3", 13, 0);
         lawFault("stand if X=1", 9, 0);
+        lawFault("stand if xz=1", 9, 0);
+        lawFault("stand if xa=1", 9, 0);
         lawFault("follow", 6, 0);
         lawFault("follow if x=1", 7, 0);
         lawFault("follow 0", 7, 1);
@@ -376,6 +382,14 @@ public final class PromiseTest {
         t.tick(0, 1);
         due("one who is OUT", t.sees(1), -2);
         due("is SEEN no more", t.sees(0), 0);
+        SecondNearest u = on("row ...;person 0 0 1 1;herald 2 0", "stand");
+        due("nothing between", u.sees(0), 1);
+        u.image(0);
+        plain(u, "row .#.;person 0 0 1 1;herald 2 0");
+        due("a WALL in another PLAIN", u.sees(0), 0);
+        due("and again", u.sees(0), 0);
+        u.back(0);
+        due("and back", u.sees(0), 1);
     }
 
     private static void p10() {
@@ -414,6 +428,11 @@ public final class PromiseTest {
             due("and back", s.goes(0, (way + 4) % 8) ? 1 : 0, 1);
         }
         due("STEPS", s.count(4), 0);
+        SecondNearest u = on("row ...;herald 0 0;herald 2 0");
+        due("HERALD 1 goes", u.goes(1, 6) ? 1 : 0, 1);
+        due("x of HERALD 1", u.herald(1, 0), 1);
+        due("x of HERALD 0", u.herald(0, 0), 0);
+        due("HERALD 0 is barred by him", u.goes(0, 2) ? 1 : 0, 0);
         SecondNearest t = on("row .#;row G~;row ..;herald 0 0;person 0 2 1 1", "stand");
         due("up, beyond", t.goes(0, 0) ? 1 : 0, 0);
         due("to a WALL", t.goes(0, 2) ? 1 : 0, 0);
@@ -553,6 +572,21 @@ public final class PromiseTest {
         SecondNearest v = on("row .G.;person 0 0 1 1;herald 2 0", "follow 1");
         due("OUT and rest", v.round(0, 0), 1);
         due("OUT and rest", v.round(0, 1), 1);
+        // 1188 STEPS ahead of a round of 2
+        SecondNearest w = on("row ......;row ......;row ......;row .#....;row #.#...;person 5 1 6 4;person 2 0 6 0;person 5 0 9 3"
+            + ";person 1 4 3 3;person 4 4 5 5;person 4 1 6 5;person 3 0 1 1;person 4 0 6 0;person 4 3 3 3;person 2 2 6 1;herald 5 4",
+            "follow 9 if seen>1;follow 3");
+        due("far beyond 400: LEAD-IN", w.round(0, 0), -2);
+        due("far beyond 400: STEPS", w.round(0, 1), -2);
+        for (int i = 0; i < 3; i++) {
+            w.tick(0, 200);
+        }
+        due("STEPS done", w.tick(0, 189), 789);
+        due("again at 401: LEAD-IN", w.round(0, 0), -2);
+        due("again at 401: STEPS", w.round(0, 1), -2);
+        w.tick(0, 1);
+        due("again at 400: LEAD-IN", w.round(0, 0), 398);
+        due("again at 400: STEPS", w.round(0, 1), 2);
     }
 
     private static void p16() {
@@ -642,6 +676,8 @@ public final class PromiseTest {
         due("the first of several", t.post(0, 2, 0), 0);
         SecondNearest u = on("row #.G.;herald 1 0;person 3 0 1 1", "follow 1");
         due("where he is, too", u.post(0, 1, 0), 1);
+        SecondNearest v = on("row .G..;person 0 0 1 1;herald 3 0", "follow 1");
+        due("not on the GATE, but behind it", v.post(0, 1, 0), 2);
         due("n 60", u.post(0, 60, 1), 1);
         due("n 61", u.post(0, 61, 1), NONE);
         due("n -1", u.post(0, -1, 1), NONE);
@@ -694,6 +730,10 @@ public final class PromiseTest {
         due("two STEPS are needed", u.wall(0, 1), -2);
         due("nothing changes", u.cell(1, 0, 0), 0);
         due("nor what is SEEN", u.sees(0), 2);
+        // he follows HERALD 0 (9), unless (1,1) hides him; then HERALD 1 (16), over the GATE at the third STEP
+        SecondNearest x = on("row .#######;row ......G.;herald 0 1;person 3 1 1 1;herald 7 1", "follow 1");
+        due("the second CELL tried", x.wall(0, 3), 12 + 1);
+        due("in less STEPS none", x.wall(0, 2), -2);
         SecondNearest v = on("row G.#;row ...;herald 0 1", "stand");
         due("nobody there: the first FREE CELL, no GATE", v.wall(0, 0), 1);
         due("STEPS to a GATE stay", v.cell(2, 1, 2), 2);
@@ -791,6 +831,10 @@ public final class PromiseTest {
         due("STEP 3: he is OUT", t.judged(0), 1);
         t.tick(0, 1);
         due("STEPS are counted from now on", t.judged(0), 0);
+        SecondNearest u = on("row ...;person 0 0 1 1;herald 2 0", "follow 1", "stand if x=1");
+        u.spoor(200, 0, 12);
+        due("STEP 200: so", u.judged(0), -2);
+        due("STEP 200: not so", u.judged(1), 0);
     }
 
     private static void p25() {
@@ -863,6 +907,18 @@ public final class PromiseTest {
         due("back(0) once more", s.back(0), 1);
         due("image in its place", s.image(3), 1);
         due("back(3)", s.back(3), 1);
+        SecondNearest u = on("row ...;person 0 0 1 1;person 1 0 1 1;herald 2 0", "follow 1", "follow 2");
+        u.spoor(2, 0, 1);
+        u.spoor(1, 1, 0);
+        u.image(0);
+        u.spoor(0, NONE, 0);
+        u.spoor(1, 1, 12);
+        u.spoor(3, 0, 12);
+        due("other SPOORS", u.judged(1), -2);
+        due("are not so by LAW 0", u.judged(0), 0);
+        u.back(0);
+        due("those of the IMAGE", u.judged(0), -2);
+        due("are not so by LAW 1", u.judged(1), 0);
         SecondNearest t = new SecondNearest();
         due("an IMAGE without a PLAIN", t.image(2), 0);
         plain(t, "row .G.;herald 0 0");
