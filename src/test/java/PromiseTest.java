@@ -1,4 +1,4 @@
-/** Each promise by itself: ordinary inputs, the edges that the document names, wrong inputs; answers worked out by hand. */
+/** Each promise by itself: ordinary inputs, the edges that the document names, wrong inputs; answers worked out by hand but where said. */
 public final class PromiseTest {
     private static final int NONE = SecondNearest.NONE;
     private static int wrong = 0;
@@ -572,7 +572,7 @@ public final class PromiseTest {
         SecondNearest v = on("row .G.;person 0 0 1 1;herald 2 0", "follow 1");
         due("OUT and rest", v.round(0, 0), 1);
         due("OUT and rest", v.round(0, 1), 1);
-        // 1188 STEPS ahead of a round of 2
+        // found by a search, and told alike by the model: 1188 STEPS ahead of a round of 2
         SecondNearest w = on("row ......;row ......;row ......;row .#....;row #.#...;person 5 1 6 4;person 2 0 6 0;person 5 0 9 3"
             + ";person 1 4 3 3;person 4 4 5 5;person 4 1 6 5;person 3 0 1 1;person 4 0 6 0;person 4 3 3 3;person 2 2 6 1;herald 5 4",
             "follow 9 if seen>1;follow 3");
