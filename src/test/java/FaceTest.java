@@ -11,7 +11,7 @@ import java.util.List;
 import java.util.TreeSet;
 
 /** The class shows the document's face and no more, keeps to the rules of the language that can be looked up, and makes nothing in calls. */
-public final class FaceTest {
+public final class FaceTest extends Check {
     private static final String[] FACE = {
         "int feed(int,int,int,int,int)", "int end(int)", "int plain()", "int law()", "int person(int,int)", "int herald(int,int)",
         "int cell(int,int,int)", "int sees(int)", "int seen(int,int)", "boolean goes(int,int)", "int tick(int,int)",
@@ -21,7 +21,7 @@ public final class FaceTest {
     private static final String[] FORBIDDEN = {"\\bthrow\\b", "\\btry\\b", "\\bcatch\\b", "\\bsynchronized\\b", "\\bassert\\b", "->", "::",
         "\\bstatic \\{", "\\bprotected\\b", "Exact\\(", "\\bvar\\b", "@"};
 
-    private static int wrong = 0;
+    private FaceTest() { }
 
     private static void must(boolean good, String what) {
         if (!good) {
@@ -83,17 +83,6 @@ public final class FaceTest {
         must(source.chars().allMatch(c -> c < 128), "signs below 128");
     }
 
-    private static void tell(SecondNearest s, String text) {
-        for (int from = 0; from < text.length(); from += 20) {
-            int[] f = new int[5];
-            for (int i = 0; i < 20; i++) {
-                f[i / 4] = f[i / 4] << 8 | (from + i < text.length() ? text.charAt(from + i) : 0);
-            }
-            s.feed(f[0], f[1], f[2], f[3], f[4]);
-        }
-        s.end(text.length());
-    }
-
     private static void callAll(SecondNearest s) {
         s.tick(0, 2);
         s.round(0, 0);
@@ -115,10 +104,8 @@ public final class FaceTest {
     private static void checkRoom() {
         com.sun.management.ThreadMXBean bean = (com.sun.management.ThreadMXBean) ManagementFactory.getThreadMXBean();
         SecondNearest s = new SecondNearest();
-        tell(s, "row ......;row .#..G.;row ......;person 0 0 1 1;person 3 2 2 1;herald 5 0");
-        s.plain();
-        tell(s, "follow 2 if seen > 1 and not gate = 0;follow 1");
-        s.law();
+        plain(s, "row ......;row .#..G.;row ......;person 0 0 1 1;person 3 2 2 1;herald 5 0");
+        law(s, "follow 2 if seen > 1 and not gate = 0;follow 1");
         callAll(s);
         bean.getCurrentThreadAllocatedBytes();
         long before = bean.getCurrentThreadAllocatedBytes();

@@ -1,53 +1,6 @@
 /** Each promise by itself: ordinary inputs, the edges that the document names, wrong inputs; answers worked out by hand but where said. */
-public final class PromiseTest {
-    private static final int NONE = SecondNearest.NONE;
-    private static int wrong = 0;
-    private static int checks = 0;
-    private static String part = "";
-
-    private static void due(String what, long got, long want) {
-        checks++;
-        if (got != want) {
-            wrong++;
-            System.out.println(part + ": " + what + " answered " + got + ", due is " + want);
-        }
-    }
-
-    private static void tell(SecondNearest s, String text) {
-        s.end(0);
-        for (int from = 0; from < text.length() && from < 400; from += 20) {
-            int[] f = new int[5];
-            for (int i = 0; i < 20; i++) {
-                int c = from + i < text.length() ? text.charAt(from + i) & 255 : 0;
-                f[i / 4] = f[i / 4] << 8 | c;
-            }
-            s.feed(f[0], f[1], f[2], f[3], f[4]);
-        }
-        s.end(text.length());
-    }
-
-    private static int plain(SecondNearest s, String text) {
-        tell(s, text);
-        return s.plain();
-    }
-
-    private static int law(SecondNearest s, String text) {
-        tell(s, text);
-        return s.law();
-    }
-
-    private static SecondNearest on(String text, String... laws) {
-        SecondNearest s = new SecondNearest();
-        due("the PLAIN '" + text + "'", Math.min(0, plain(s, text)), 0);
-        for (int i = 0; i < laws.length; i++) {
-            due("the LAW '" + laws[i] + "'", law(s, laws[i]), i);
-        }
-        return s;
-    }
-
-    private static int fault(int place, int kind) {
-        return -2 - (1 + 8 * place + kind);
-    }
+public final class PromiseTest extends Check {
+    private PromiseTest() { }
 
     private static void plainFault(String text, int place, int kind) {
         SecondNearest s = on("row ..;person 1 0 3 4");
@@ -67,10 +20,6 @@ public final class PromiseTest {
 
     private static void goodLaw(String text) {
         due("law() of '" + text + "'", law(new SecondNearest(), text), 0);
-    }
-
-    private static String times(String text, int n) {
-        return text.repeat(n);
     }
 
     /** Whether a TEST holds for PERSON 0: then he follows the one PERSON or HERALD he sees, else he stands. */
@@ -492,12 +441,6 @@ public final class PromiseTest {
         due("stand", z.person(0, 0), 0);
         z.tick(2, 1);
         due("no CLAUSE", z.person(0, 0), 0);
-    }
-
-    private static SecondNearest withLaw(String text) {
-        SecondNearest s = new SecondNearest();
-        law(s, text);
-        return s;
     }
 
     private static void p13() {
@@ -969,11 +912,6 @@ public final class PromiseTest {
         }
     }
 
-    private static void run(String name, Runnable test) {
-        part = name;
-        test.run();
-    }
-
     public static void main(String[] args) {
         run("promise 1", PromiseTest::p1);
         run("promise 2", PromiseTest::p2);
@@ -1003,9 +941,6 @@ public final class PromiseTest {
         run("promise 26", PromiseTest::p26);
         run("promises 27 and 28", PromiseTest::p27and28);
         run("any arguments", PromiseTest::wildArguments);
-        System.out.println(checks + " checks, " + wrong + " wrong");
-        if (wrong != 0) {
-            System.exit(1);
-        }
+        report();
     }
 }
