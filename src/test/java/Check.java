@@ -3,6 +3,8 @@ import java.nio.file.Files;
 import java.nio.file.Path;
 import java.util.ArrayList;
 import java.util.List;
+import java.util.function.Supplier;
+import java.util.function.ToIntFunction;
 
 /** What the tests share: texts told to an object, answers compared, and a look at all that can be asked of an object. */
 class Check {
@@ -117,8 +119,10 @@ class Check {
     /** Whom one SEES, in order, as far as there is somebody. */
     static String order(SecondNearest s, int who) {
         List<Integer> list = new ArrayList<>();
-        for (int place = 1; place <= 14 && s.seen(who, place) >= 0; place++) {
-            list.add(s.seen(who, place));
+        int other = s.seen(who, 1);
+        while (other >= 0 && list.size() < 14) {
+            list.add(other);
+            other = s.seen(who, list.size() + 1);
         }
         return list.toString();
     }
@@ -129,33 +133,43 @@ class Check {
 
     /** All that calls tell of an object without changing it (of its SPOORS by what LAWS make of them): for small PLAINS. */
     static String state(SecondNearest s) {
+        int[] counts = new int[10];
         StringBuilder all = new StringBuilder("count");
         for (int what = 0; what <= 9; what++) {
-            all.append(' ').append(s.count(what));
+            counts[what] = s.count(what);
+            all.append(' ').append(counts[what]);
         }
-        for (int p = 0; p < s.count(2); p++) {
+        for (int p = 0; p < counts[2]; p++) {
             all.append("; person");
             for (int what = 0; what <= 4; what++) {
                 all.append(' ').append(s.person(p, what));
             }
             all.append(" sees ").append(s.sees(p)).append(order(s, p));
         }
-        for (int h = 0; h < s.count(3); h++) {
+        for (int h = 0; h < counts[3]; h++) {
             all.append("; herald ").append(s.herald(h, 0)).append(' ').append(s.herald(h, 1)).append(order(s, 12 + h));
         }
-        for (int y = 0; y < s.count(1); y++) {
+        for (int y = 0; y < counts[1]; y++) {
             all.append("; row");
-            for (int x = 0; x < s.count(0); x++) {
+            for (int x = 0; x < counts[0]; x++) {
                 all.append(' ').append(s.cell(x, y, 0)).append('/').append(s.cell(x, y, 1)).append('/').append(s.cell(x, y, 2));
             }
         }
-        for (int law = 0; law < s.count(7); law++) {
+        for (int law = 0; law < counts[7]; law++) {
             all.append("; law judged ").append(s.judged(law)).append(" follows");
-            for (int p = 0; p < s.count(2); p++) {
+            for (int p = 0; p < counts[2]; p++) {
                 all.append(' ').append(s.follows(law, p));
             }
         }
         return all.toString();
+    }
+
+    /** A call of which nothing happens; the object is made for it, so that none is used for more than 512 calls. */
+    static void stays(String call, Supplier<SecondNearest> object, ToIntFunction<SecondNearest> answer, int want) {
+        SecondNearest s = object.get();
+        String before = state(s);
+        due(call, answer.applyAsInt(s), want);
+        due("all behind " + call, state(s), before);
     }
 
     static String document() {

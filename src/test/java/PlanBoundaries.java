@@ -95,7 +95,12 @@ final class PlanBoundaries extends Check {
         due("went in the last of 1", t.ahead(0, 1, 1), 1);
         due("and then in none", t.ahead(0, 0, 1), 0);
         due("by standing none went", t.ahead(1, 200, 1), 0);
-        says("AHEAD what 0: OUT, 1: how many went, 2 and a PERSON: the STEP (from now on) at which he comes OUT (0: he is, -2: not in these). NONE without these.");
+    }
+
+    private static void aheadAnswers() {
+        says("AHEAD what 0: OUT, 1: how many went, 2 and a PERSON: the STEP (from now on) at which he comes OUT"
+            + " (0: he is, -2: not in these). NONE without these.");
+        SecondNearest t = on("row ..G.;person 0 0 1 1;person 1 0 1 1;herald 3 0", "follow 2 if seen=2;follow 1", "stand");
         t.tick(0, 1);
         due("1 is OUT", t.ahead(0, 0, 3), 0);
         due("and stays so", t.ahead(0, 200, 3), 0);
@@ -129,7 +134,8 @@ final class PlanBoundaries extends Check {
         due("again at 400: all rest", s.round(1, 1), 1);
         due("by standing: LEAD-IN", s.round(0, 0), 0);
         due("by standing: all rest", s.round(0, 1), 1);
-        SecondNearest t = on("row .....;herald 0 0;herald 4 0;person 2 0 1 1", "follow 1 if x=2;follow 2", "follow 1 if x=1;follow 2 if x=2");
+        SecondNearest t = on("row .....;herald 0 0;herald 4 0;person 2 0 1 1", "follow 1 if x=2;follow 2",
+            "follow 1 if x=1;follow 2 if x=2");
         // x 2: HERALD 0, to 1; x 1: HERALD 1 is the second, to 2
         due("to and fro: LEAD-IN", t.round(0, 0), 0);
         due("to and fro", t.round(0, 1), 2);
@@ -146,11 +152,17 @@ final class PlanBoundaries extends Check {
             + times(";row ............", 3) + ";row ........G...;row ............";
         String both = ";person 1 0 0 1;person 7 10 0 1;herald 3 0;herald 9 10";
         due("PEOPLE 0 and 1: LEAD-IN", on(two + both, ELEVEN_LAW).round(0, 0), 1);
-        String eight = ";person 0 5 0 0;person 1 5 0 0;person 2 5 0 0;person 3 5 0 0;person 4 5 0 0;person 5 5 0 0;person 6 5 0 0;person 7 5 0 0";
+        String eight = ";person 0 5 0 0;person 1 5 0 0;person 2 5 0 0;person 3 5 0 0;person 4 5 0 0;person 5 5 0 0;person 6 5 0 0"
+            + ";person 7 5 0 0";
         due("PEOPLE 8 and 9: LEAD-IN", on(two + eight + both, ELEVEN_LAW).round(0, 0), 1);
         due("nobody: LEAD-IN", on("row .", "stand").round(0, 0), 0);
         due("nobody", on("row .", "stand").round(0, 1), 1);
+    }
+
+    private static void roundAnswers() {
         says("ROUND what 0: LEAD-IN, 1: STEPS till it comes again; -2: not within 400; NONE without these.");
+        SecondNearest t = on("row .....;herald 0 0;herald 4 0;person 2 0 1 1", "follow 1 if x=2;follow 2",
+            "follow 1 if x=1;follow 2 if x=2");
         for (int what : new int[] {-1, 2, WILD[0], WILD[1]}) {
             due("what " + what, t.round(0, what), NONE);
         }
@@ -163,11 +175,16 @@ final class PlanBoundaries extends Check {
 
     // ---- promises 16 to 18
 
-    private static void filesAndRings() {
-        says("FILES: the most PEOPLE one behind the other (each FOLLOWS the next one, all unlike; a HERALD, or nobody, at the head is not counted).");
-        // each follows the older one at his right
-        SecondNearest s = on("row ............;row ............" + peopleOfARow(12) + ";herald 11 1", "follow 1 if x<11", "follow 1",
+    /** By LAWS 0 to 2 each follows the older one at his right; the last one nobody, the one behind him, the HERALD. */
+    private static SecondNearest twelveInARow() {
+        return on("row ............;row ............" + peopleOfARow(12) + ";herald 11 1", "follow 1 if x<11", "follow 1",
             "follow 2 if x=11;follow 1", "stand");
+    }
+
+    private static void longestFiles() {
+        says("FILES: the most PEOPLE one behind the other (each FOLLOWS the next one, all unlike; a HERALD, or nobody, at the head"
+            + " is not counted).");
+        SecondNearest s = twelveInARow();
         due("twelve, nobody at the head", s.files(0, 0), 12);
         due("twelve, the last two a RING", s.files(1, 0), 12);
         due("twelve, a HERALD at the head", s.files(2, 0), 12);
@@ -183,19 +200,24 @@ final class PlanBoundaries extends Check {
         due("twelve, PERSON 11 the last", on(backwards.toString(), "follow 1 if x<11").files(0, 0), 12);
         due("no PEOPLE", on("row ..;herald 0 0", "follow 1").files(0, 0), 0);
         due("a HERALD is none", on("row ..;herald 0 0;person 1 0 1 1", "follow 1").files(0, 0), 1);
+    }
+
+    private static void rings() {
         says("RINGS: PEOPLE each of whom FOLLOWS the next one, the last the first: how many of these, PEOPLE in them (as bits).");
+        SecondNearest s = twelveInARow();
         due("no RING", s.files(0, 1), 0);
         due("none in it", s.files(0, 2), 0);
         due("a RING of two", s.files(1, 1), 1);
         due("the two in it", s.files(1, 2), 1 << 10 | 1 << 11);
         due("a HERALD ends it", s.files(2, 1), 0);
-        SecondNearest six = on("row ..#..#..#..#;row ############;row ..#..#..#..#;person 0 0 1 1;person 1 0 1 1;person 3 0 1 1;person 4 0 1 1"
-            + ";person 6 0 1 1;person 7 0 1 1;person 9 0 1 1;person 10 0 1 1;person 0 2 1 1;person 1 2 1 1;person 3 2 1 1;person 4 2 1 1",
+        SecondNearest six = on("row ..#..#..#..#;row ############;row ..#..#..#..#;person 0 0 1 1;person 1 0 1 1;person 3 0 1 1"
+            + ";person 4 0 1 1;person 6 0 1 1;person 7 0 1 1;person 9 0 1 1;person 10 0 1 1;person 0 2 1 1;person 1 2 1 1"
+            + ";person 3 2 1 1;person 4 2 1 1",
             "follow 1");
         due("six RINGS", six.files(0, 1), 6);
         due("all in them", six.files(0, 2), 4095);
         due("each of two", six.files(0, 0), 2);
-        // round two rows, each a year older than the one ahead of him: he has the one across, who is older still, at 1, too, in row 0
+        // round two rows each follows the one who is a year older, and the oldest the youngest; who is across is at 1, too
         SecondNearest ring = on("row ......;row ......" + peopleOfARow(6) + ";person 5 1 6 0;person 4 1 7 0;person 3 1 8 0;person 2 1 9 0"
             + ";person 1 1 10 0;person 0 1 11 0", "follow 2 if y=0 and x<5 or y=1 and x=0;follow 1");
         due("one RING of twelve", ring.files(0, 1), 1);
@@ -205,7 +227,11 @@ final class PlanBoundaries extends Check {
         due("one RING of three", three.files(0, 1), 1);
         due("all in it", three.files(0, 2), 7);
         due("as a FILE", three.files(0, 0), 3);
+    }
+
+    private static void filesAnswers() {
         says("What 0: FILES (the longest), 1: RINGS, 2: PEOPLE in RINGS, as bits. NONE without these.");
+        SecondNearest s = twelveInARow();
         for (int what : new int[] {-1, 3, WILD[0], WILD[1]}) {
             due("what " + what, s.files(0, what), NONE);
         }
@@ -213,6 +239,9 @@ final class PlanBoundaries extends Check {
             due("LAW " + law, s.files(law, 0), NONE);
         }
         due("no PLAIN", withLaw("stand").files(0, 0), NONE);
+    }
+
+    private static void askedNow() {
         says("asked all as they stand now, whether he could go or not");
         SecondNearest barred = on("row ..;person 0 0 1 1;person 1 0 1 1", "follow 1");
         due("they can't go", barred.ahead(0, 1, 1), 0);
@@ -223,10 +252,15 @@ final class PlanBoundaries extends Check {
         due("a FILE of two", now.files(0, 0), 2);
     }
 
+    /** By LAW 0 PERSON 0 has PERSON 1 and HERALD 1 at 4, and PEOPLE are ahead: he goes to x 2; without 1 he goes to the GATE. */
+    private static SecondNearest drawnEitherWay() {
+        return on("row ....G.;herald 0 0;person 3 0 1 1;herald 5 0;person 1 0 1 1", "follow 1 if sort=1 and x>1", "stand");
+    }
+
     private static void takenAway() {
-        says("WITHOUT a PERSON or HERALD (12 and his number): how many others (PEOPLE) are somewhere else (or OUT, or not) behind n STEPS than with him.");
-        SecondNearest s = on("row ....G.;herald 0 0;person 3 0 1 1;herald 5 0;person 1 0 1 1", "follow 1 if sort=1 and x>1", "stand");
-        // 0 has PERSON 1 and HERALD 1 at 4, and PEOPLE are ahead: he goes to x 2; without 1 he goes to the GATE
+        says("WITHOUT a PERSON or HERALD (12 and his number): how many others (PEOPLE) are somewhere else (or OUT, or not)"
+            + " behind n STEPS than with him.");
+        SecondNearest s = drawnEitherWay();
         due("with all", s.follows(0, 0), 1);
         due("without 1 he is OUT, not at 2", s.without(0, 1, 1), 1);
         due("without 0 nobody else is", s.without(0, 0, 1), 0);
@@ -234,7 +268,11 @@ final class PlanBoundaries extends Check {
         due("without HERALD 1 too", s.without(0, 13, 1), 0);
         due("behind none", s.without(0, 1, 0), 0);
         due("by standing", s.without(1, 1, 200), 0);
+    }
+
+    private static void withoutAnswers() {
         says("WITHOUT (n 0 to 200); NONE without these (one who is OUT, too).");
+        SecondNearest s = drawnEitherWay();
         due("n 200", s.without(0, 1, 200), 1);
         for (int n : new int[] {-1, 201, WILD[0], WILD[1]}) {
             due("n " + n, s.without(0, 1, n), NONE);
@@ -255,17 +293,21 @@ final class PlanBoundaries extends Check {
         due("OUT, or not: behind 2", gone.without(0, 12, 2), 1);
         due("somewhere else: behind 1", gone.without(0, 12, 1), 1);
         due("PERSON 11 is one of the others", on(ELEVEN, ELEVEN_LAW).without(0, 12, 1), 1);
-        // with HERALD 0 he is OUT at STEP 60, and else nowhere near
-        due("200 STEPS are counted", walk(0).without(0, 12, 200), 1);
+        // told alike by the model
+        due("behind 199", late(0).without(1, 3, 199), 5);
+        due("behind 200", late(0).without(1, 3, 200), 7);
     }
 
     private static void leaders() {
         says("LEADER: the PERSON or HERALD without whom most are (HERALDS behind PEOPLE, of several the least).");
-        SecondNearest s = on("row ....G.;herald 0 0;person 3 0 1 1;herald 5 0;person 1 0 1 1", "follow 1 if sort=1 and x>1", "stand");
+        SecondNearest s = drawnEitherWay();
         due("PERSON 1", s.leader(0, 1, 0), 1);
         due("one", s.leader(0, 1, 1), 1);
         due("of none the least", s.leader(1, 1, 0), 0);
         due("none", s.leader(1, 1, 1), 0);
+        SecondNearest zero = on("row ....G.;herald 0 0;person 1 0 1 1;person 3 0 1 1;herald 5 0", "follow 1 if sort=1 and x>1");
+        due("PERSON 0", zero.leader(0, 1, 0), 0);
+        due("one", zero.leader(0, 1, 1), 1);
         // each of the two HERALDS draws one of two who SEE no other one
         SecondNearest t = on("row ...#...;person 0 0 1 1;herald 2 0;herald 4 0;person 6 0 1 1", "follow 1");
         due("without either HERALD one: the least", t.leader(0, 1, 0), 12);
@@ -279,7 +321,11 @@ final class PlanBoundaries extends Check {
         SecondNearest gate = on("row G..;person 0 0 1 1;herald 1 0;person 2 0 1 1", "stand");
         gate.tick(0, 1);
         due("the least who is there", gate.leader(0, 0, 0), 1);
+    }
+
+    private static void leaderAnswers() {
         says("LEADER what 0: who, 1: how many; -2: there is nobody; NONE without these.");
+        SecondNearest s = drawnEitherWay();
         SecondNearest nobody = on("row G;person 0 0 1 1", "stand");
         due("somebody: who", nobody.leader(0, 1, 0), 0);
         due("somebody: how many", nobody.leader(0, 1, 1), 0);
@@ -291,6 +337,9 @@ final class PlanBoundaries extends Check {
         due("how many", on("row .;herald 0 0", "stand").leader(0, 1, 1), 0);
         due("n 0", s.leader(0, 0, 1), 0);
         due("n 200", s.leader(0, 200, 0), 1);
+        // told alike by the model: without HERALD 0 or 1 all eight are somewhere else
+        due("behind 199", late(0).leader(1, 199, 0), 13);
+        due("behind 200", late(0).leader(1, 200, 0), 12);
         for (int n : new int[] {-1, 201, WILD[0], WILD[1]}) {
             due("n " + n, s.leader(0, n, 0), NONE);
         }
@@ -317,10 +366,13 @@ final class PlanBoundaries extends Check {
         due("the only CELL", on("row .;herald 0 0", "stand").post(0, 1, 0), 0);
         due("the last CELL", on("row ###;row ##.;herald 2 1", "stand").post(0, 1, 0), 12 + 2);
         due("a GATE is FREE", on("row #G.;herald 2 0", "stand").post(0, 1, 0), 1);
-        due("where PEOPLE, HERALDS, WALLS, PONDS are not", on("row #~..;row ....;person 2 0 1 1;herald 3 1;herald 3 0", "stand").post(0, 1, 0), 12);
+        due("where PEOPLE, HERALDS, WALLS, PONDS are not",
+            on("row #~..;row ....;person 2 0 1 1;herald 3 1;herald 3 0", "stand").post(0, 1, 0), 12);
         SecondNearest t = on("row ..G.;person 0 0 1 1;herald 1 0", "follow 1");
         due("where he is he bars the way: beyond", t.post(0, 2, 0), 3);
-        due("on the GATE he bars it", t.post(0, 2, 1), 1);
+        due("one is OUT from there", t.post(0, 2, 1), 1);
+        // from (0,0) he is drawn away, from where he is through the GATE
+        due("each from where all stand now", on("row ...G.;person 2 0 1 1;herald 4 0", "follow 1").post(0, 1, 0), 4);
         // one beside a GATE who stands: none is OUT from any CELL
         due("of several alike the first", on("row ...G;person 2 0 1 1;herald 1 0", "stand").post(0, 5, 0), 0);
         SecondNearest one = on("row G...G;person 0 0 1 1;person 3 0 1 1;herald 2 0", "stand");
@@ -334,7 +386,11 @@ final class PlanBoundaries extends Check {
         SecondNearest corner = on("row .~~~~~~~~~~~" + times(";row ~~~~~~~~~~~~", 8) + ";row ~~~~~~~~~.~~;row ~~~~~~~~~~G~;row ~~~~~~~~~~~."
             + ";herald 0 0;person 9 9 1 1", "follow 1");
         due("the last CELL of all", corner.post(0, 1, 0), 143);
+    }
+
+    private static void postAnswers() {
         says("POST (n 0 to 60) what 0: 12 * y + x, 1: how many are OUT; NONE without these (no HERALD).");
+        SecondNearest t = on("row ..G.;person 0 0 1 1;herald 1 0", "follow 1");
         due("n 0: the first", t.post(0, 0, 0), 1);
         due("n 0: none", t.post(0, 0, 1), 0);
         for (int n : new int[] {-1, 61, WILD[0], WILD[1]}) {
@@ -385,13 +441,31 @@ final class PlanBoundaries extends Check {
         for (int i = 1; i <= 3; i++) {
             due("of several alike the first, WAY " + i, alike.lead(0, 3, 3, i), first[i - 1]);
         }
+        // up he is hidden, left he draws him through the GATE
+        SecondNearest hide = on("row #####.;row ...G..;person 0 1 1 1;herald 5 1", "follow 1");
+        due("in 3 one is OUT", hide.lead(0, 1, 2, 0), 1);
+        due("left", hide.lead(0, 1, 2, 1), 6);
+        due("in 2 none is", hide.lead(0, 1, 1, 0), 0);
+        due("up, the first", hide.lead(0, 1, 1, 1), 0);
+        // he is drawn from (1,0) alone, where one course leads: up and right, up, up
+        SecondNearest course = on("row ~.G.;row ~.~~;row ~.~~;row .~~~;person 3 0 1 1;herald 0 3", "follow 1 if near=4");
+        int[] only = {1, 1, 0, 0};
+        for (int i = 0; i <= 3; i++) {
+            due("the only course, what " + i, course.lead(0, 3, 0, i), only[i]);
+        }
+        due("in 2 none", course.lead(0, 2, 0, 0), 0);
         // only by standing the HERALD draws him through the GATE
         SecondNearest u = on("row .G.;row #~.;person 0 0 1 1;herald 2 0", "follow 1 if near=4");
         due("down he is too far, so he stands", u.lead(0, 1, 0, 1), 8);
         due("one is OUT", u.lead(0, 1, 0, 0), 1);
         SecondNearest two = on("row ..#..;herald 3 0;herald 0 0", "stand");
         due("HERALD 0, not 1: right", two.lead(0, 1, 0, 1), 2);
+    }
+
+    private static void leadAnswers() {
         says("LEAD (n 0 to 3, m 0 to 12) what 0: how many are OUT, 1 to 3: his WAYS (-2: n is less). NONE without these (no HERALD).");
+        SecondNearest t = on("row ...;herald 1 0", "stand");
+        int[] ways = {2, 6, 2};
         for (int n = 0; n <= 3; n++) {
             due("OUT by " + n, t.lead(0, n, 0, 0), 0);
             for (int i = 1; i <= 3; i++) {
@@ -419,7 +493,8 @@ final class PlanBoundaries extends Check {
     }
 
     private static void walls() {
-        says("WALL: the first FREE CELL (rows from above, each from the left; no GATE) which, were it a WALL, would let all be OUT within n STEPS.");
+        says("WALL: the first FREE CELL (rows from above, each from the left; no GATE) which, were it a WALL, would let all be OUT"
+            + " within n STEPS.");
         // the CELLS ahead of (11,0) are on his way
         SecondNearest s = walk(0);
         due("in 60", s.wall(0, 60), 11);
@@ -432,10 +507,19 @@ final class PlanBoundaries extends Check {
         SecondNearest two = on("row .G.;person 0 0 1 1;person 1 0 1 1", "stand");
         due("not all", two.wall(0, 60), -2);
         SecondNearest u = on("row ....G.;herald 0 0;person 2 0 1 1;herald 5 0", "follow 1 if seen=1");
+        due("he SEES both", u.sees(0), 2);
         due("it hides HERALD 0", u.wall(0, 2), 1);
+        due("he SEES both still", u.sees(0), 2);
         due("in one STEP less", u.wall(0, 1), -2);
+        // he follows HERALD 0, unless (1,1) hides him; (0,0), tried before, does not
+        SecondNearest second = on("row .#######;row ......G.;herald 0 1;person 3 1 1 1;herald 7 1", "follow 1");
+        due("the second CELL tried", second.wall(0, 3), 12 + 1);
+        due("in 2 none", second.wall(0, 2), -2);
         due("all twelve in 10", on(ELEVEN, ELEVEN_LAW).wall(0, 10), 11);
         due("not in 9", on(ELEVEN, ELEVEN_LAW).wall(0, 9), -2);
+    }
+
+    private static void wallAnswers() {
         says("WALL (n 0 to 60): 12 * y + x; -2: there is none; NONE without these.");
         SecondNearest v = on("row GG;row ..", "stand");
         due("n 0", v.wall(0, 0), 12);
@@ -462,7 +546,6 @@ final class PlanBoundaries extends Check {
         String three = ";person 0 0 1 1;person 1 0 1 1;person 2 0 1 1";
         due("three PEOPLE", on("row .....G" + three, "stand").ago(0), 1);
         SecondNearest four = on("row .....G" + three + ";person 5 0 1 1", "stand");
-        due("four, LAW 1", four.ago(1), NONE);
         due("four", four.ago(0), -2);
         four.tick(0, 1);
         due("of four one is OUT", four.ago(0), 1);
@@ -494,9 +577,20 @@ final class PlanBoundaries extends Check {
         SecondNearest out = on("row .G.;herald 2 0;person 0 0 1 1", "follow 1");
         out.tick(0, 1);
         due("nobody there: the one SITUATION", out.ago(0), 1);
+    }
+
+    private static void agoAnswers() {
         says("BACK; -2: too many PEOPLE or CELLS (columns times rows); NONE without that LAW or a PLAIN.");
+        SecondNearest few = on("row ....;person 0 0 1 1;person 1 0 1 1;person 2 0 1 1", "stand");
+        SecondNearest many = on("row ....;person 0 0 1 1;person 1 0 1 1;person 2 0 1 1;person 3 0 1 1", "stand");
+        SecondNearest wide = on("row ............" + times(";row ............", 3), "stand");
+        due("few", few.ago(0), 1);
+        due("too many PEOPLE", many.ago(0), -2);
+        due("too many CELLS", wide.ago(0), -2);
         for (int law : new int[] {-1, 1, 6, WILD[0], WILD[1]}) {
-            due("LAW " + law, out.ago(law), NONE);
+            due("LAW " + law, few.ago(law), NONE);
+            due("LAW " + law + ", too many PEOPLE", many.ago(law), NONE);
+            due("LAW " + law + ", too many CELLS", wide.ago(law), NONE);
         }
         due("no PLAIN", withLaw("stand").ago(0), NONE);
         due("neither", new SecondNearest().ago(0), NONE);
@@ -504,31 +598,60 @@ final class PlanBoundaries extends Check {
 
     // ---- promises 23 to 25
 
-    private static void stays(SecondNearest s, int step, int person, int other) {
-        String before = state(s);
-        String call = "spoor(" + step + ", " + person + ", " + other + ")";
-        due(call, s.spoor(step, person, other), -2);
-        due("nothing happened: " + call, state(s), before);
+    /** Of three SPOORS the last is not so. */
+    private static SecondNearest threeSpoors() {
+        SecondNearest s = on("row ....;person 0 0 1 1;person 1 0 1 1;herald 3 0", "follow 1");
+        due("the first", s.spoor(1, 0, 1), 1);
+        due("the second", s.spoor(200, 1, 0), 2);
+        due("the third", s.spoor(2, 0, 12), 3);
+        return s;
     }
 
-    private static void spoors() {
+    private static void noSpoor(int step, int person, int other) {
+        String call = "spoor(" + step + ", " + person + ", " + other + ")";
+        stays(call, PlanBoundaries::threeSpoors, s -> s.spoor(step, person, other), -2);
+    }
+
+    private static void spoorsAsTold() {
         says("SPOORS 0 to 39: at a STEP (1 to 200, from now on) a PERSON follows another one (PERSON, or 12 and a HERALD).");
         SecondNearest s = on("row ....;person 0 0 1 1;person 1 0 1 1;herald 3 0", "follow 1");
         due("STEP 1", s.spoor(1, 0, 1), 1);
         due("STEP 200", s.spoor(200, 1, 0), 2);
         due("a HERALD", s.spoor(2, 0, 12), 3);
+        due("STEP 0", s.spoor(0, 0, 1), -2);
+        due("STEP 201", s.spoor(201, 0, 1), -2);
+        due("a HERALD who is not", s.spoor(2, 0, 13), -2);
+        due("himself", s.spoor(2, 0, 0), -2);
+        for (int i = 3; i < 40; i++) {
+            due("SPOOR " + i, s.spoor(i, 0, 1), i + 1);
+        }
+        due("SPOOR 40", s.spoor(40, 0, 1), -2);
+        // PERSON 0 is drawn to x 2 by the HERALD in two STEPS: what is told for STEP 2 is told for the second from now on
+        SecondNearest t = on("row ....;person 0 0 1 1;herald 3 0", "follow 1 if x=1", "follow 1");
+        due("STEP 2", t.spoor(2, 0, 12), 1);
+        due("now he stands", t.judged(0), 0);
+        due("by the other LAW he follows", t.judged(1), -2);
+        t.tick(1, 1);
+        due("from x 1 he follows, but in the first STEP alone", t.judged(0), 0);
+        t.spoor(0, NONE, 0);
+        t.spoor(1, 0, 12);
+        due("STEP 1", t.judged(0), -2);
+    }
+
+    private static void spoorAnswers() {
         says("A SPOOR (person NONE: there are none then, 0): how many there are; -2, and nothing happens, for others, or if there are 40.");
         for (int step : new int[] {0, -1, 201, WILD[0], WILD[1]}) {
-            stays(s, step, 0, 1);
+            noSpoor(step, 0, 1);
         }
         for (int person : new int[] {-2, 2, 11, 12, WILD[0], WILD[1]}) {
-            stays(s, 1, person, 1);
+            noSpoor(1, person, 1);
         }
         for (int other : new int[] {-1, -2, 2, 11, 13, 14, WILD[0], WILD[1]}) {
-            stays(s, 1, 0, other);
+            noSpoor(1, 0, other);
         }
-        stays(s, 1, 0, 0);
-        stays(s, 1, 1, 1);
+        noSpoor(1, 0, 0);
+        noSpoor(1, 1, 1);
+        SecondNearest s = threeSpoors();
         due("the third is not so", s.judged(0), 2);
         due("none then, whatever else is told", s.spoor(-7, NONE, 99), 0);
         due("SPOORS", s.count(6), 0);
@@ -551,7 +674,8 @@ final class PlanBoundaries extends Check {
     }
 
     private static void judgements() {
-        says("JUDGED by a LAW: the first SPOOR, as told, that is not so (at his turn in that STEP the CLAUSE says FOLLOW and it is that one).");
+        says("JUDGED by a LAW: the first SPOOR, as told, that is not so (at his turn in that STEP the CLAUSE says FOLLOW"
+            + " and it is that one).");
         SecondNearest s = on("row ....;person 0 0 1 1;person 1 0 1 1;herald 3 0", "follow 1", "follow 3", "stand");
         due("none told", s.judged(0), -2);
         s.spoor(5, 0, 1);
@@ -591,7 +715,11 @@ final class PlanBoundaries extends Check {
         due("STEP 200 is so", late.judged(1), -2);
         late.tick(1, 1);
         due("a STEP later he is OUT by then", late.judged(1), 0);
+    }
+
+    private static void judgedAnswers() {
         says("JUDGED; -2: all are so; NONE without these.");
+        SecondNearest s = on("row ....;person 0 0 1 1;person 1 0 1 1;herald 3 0", "follow 1", "follow 3", "stand");
         for (int law : new int[] {-1, 3, 6, WILD[0], WILD[1]}) {
             due("LAW " + law, s.judged(law), NONE);
         }
@@ -627,7 +755,11 @@ final class PlanBoundaries extends Check {
         due("behind none", t.bestLaw(0), 0);
         SecondNearest like = on("row .G.;person 0 0 1 1;herald 2 0", "stand", "follow 1", "follow 1;stand");
         due("of two alike the first", like.bestLaw(1), 1);
+    }
+
+    private static void bestLawAnswers() {
         says("BEST LAW (n 0 to 200); -2: there are none; NONE without these.");
+        SecondNearest t = on("row .G.;person 0 0 1 1;herald 2 0", "stand", "follow 9", "stand if x=0", "follow 3", "follow 2");
         for (int n : new int[] {-1, 201, WILD[0], WILD[1]}) {
             due("n " + n, t.bestLaw(n), NONE);
         }
@@ -641,7 +773,8 @@ final class PlanBoundaries extends Check {
     // ---- promises 26 to 28
 
     private static void counts() {
-        says("What 0: columns, 1: rows, 2: PEOPLE, 3: HERALDS, 4: STEPS, 5: OUT, 6: SPOORS (0 without a PLAIN), 7: LAWS, 8: bytes of the TAPE, 9: GATES. NONE for others.");
+        says("What 0: columns, 1: rows, 2: PEOPLE, 3: HERALDS, 4: STEPS, 5: OUT, 6: SPOORS (0 without a PLAIN), 7: LAWS"
+            + ", 8: bytes of the TAPE, 9: GATES. NONE for others.");
         SecondNearest s = busy();
         s.feed(0, 0, 0, 0, 0);
         s.end(13);
@@ -664,47 +797,71 @@ final class PlanBoundaries extends Check {
         due("144 GATES", full.count(9), 144);
     }
 
-    private static void images() {
-        says("IMAGES 0 to 3: all but the LAWS and the TAPE, as it is; gone back to, it is as it was (these stay).");
+    /** IMAGES 0 and on of the SITUATIONS behind so many STEPS; in each STEP more is told and gone. */
+    private static SecondNearest withImages(int n) {
         SecondNearest s = on("row ..G.;row .#..;person 0 0 1 1;person 0 1 2 2;herald 3 0", "follow 1", "follow 2");
-        String[] were = new String[4];
-        for (int k = 0; k <= 3; k++) {
-            due("image(" + k + ")", s.image(k), s.count(4));
-            were[k] = state(s);
+        for (int k = 0; k < n; k++) {
+            due("image(" + k + ")", s.image(k), k);
             s.tick(1, 1);
             s.spoor(k + 1, 0, 12);
             s.goes(0, k % 2 == 0 ? 4 : 0);
         }
-        String last = state(s);
-        says("An IMAGE is made: STEPS; NONE without it.");
-        for (int k : new int[] {-1, 4, WILD[0], WILD[1]}) {
-            due("image(" + k + ")", s.image(k), NONE);
-        }
-        due("nothing happened", state(s), last);
-        says("All is as in an IMAGE: STEPS; NONE, and nothing happens, if it was never made, or without it.");
-        for (int k : new int[] {-1, 4, WILD[0], WILD[1]}) {
-            due("back(" + k + ")", s.back(k), NONE);
-        }
-        due("nothing happened", state(s), last);
-        for (int k : new int[] {3, 0, 2, 1, 1, 3}) {
-            due("back(" + k + ")", s.back(k), k);
-            due("all of IMAGE " + k, state(s), were[k]);
-        }
-        SecondNearest t = busy();
-        t.image(1);
-        String before = state(t);
-        for (int k : new int[] {0, 2, 3}) {
-            due("never made: " + k, t.back(k), NONE);
-        }
-        due("nothing happened", state(t), before);
-        t.tick(1, 5);
-        due("image in its place", t.image(1), 6);
-        t.tick(1, 5);
-        due("the later one", t.back(1), 6);
+        return s;
     }
 
+    private static void images() {
+        says("IMAGES 0 to 3: all but the LAWS and the TAPE, as it is; gone back to, it is as it was (these stay).");
+        for (int k = 0; k <= 3; k++) {
+            SecondNearest s = withImages(4);
+            for (int other : new int[] {3, k, 0, k, k}) {
+                due("back(" + other + ")", s.back(other), other);
+            }
+            due("all of IMAGE " + k, state(s), state(withImages(k)));
+            s.tick(0, 3);
+            s.spoor(1, NONE, 0);
+            s.back(k);
+            due("all of IMAGE " + k + " again", state(s), state(withImages(k)));
+        }
+        imagesAndTheRest();
+        spoorsOfImages();
+    }
+
+    private static void imageAnswers() {
+        says("An IMAGE is made: STEPS; NONE without it.");
+        for (int k : new int[] {-1, 4, WILD[0], WILD[1]}) {
+            stays("image(" + k + ")", () -> withImages(4), s -> s.image(k), NONE);
+        }
+        SecondNearest s = withImages(4);
+        due("image(-1)", s.image(-1), NONE);
+        due("image(4)", s.image(4), NONE);
+        due("the first is what it was", s.back(0), 0);
+        due("the last too", s.back(3), 3);
+        due("in place of the first", s.image(0), 3);
+        s.tick(0, 7);
+        due("the later one", s.back(0), 3);
+        due("without a PLAIN", new SecondNearest().image(0), 0);
+    }
+
+    private static void backAnswers() {
+        says("All is as in an IMAGE: STEPS; NONE, and nothing happens, if it was never made, or without it.");
+        for (int k : new int[] {-1, 4, WILD[0], WILD[1]}) {
+            stays("back(" + k + ")", () -> withImages(4), s -> s.back(k), NONE);
+        }
+        for (int made = 0; made <= 3; made++) {
+            for (int k = 0; k <= 3; k++) {
+                int n = made;
+                int number = k;
+                if (k < made) {
+                    due("back(" + k + "), made " + made, withImages(n).back(k), k);
+                } else {
+                    stays("back(" + k + "), made " + made, () -> withImages(n), s -> s.back(number), NONE);
+                }
+            }
+        }
+    }
+
+    /** LAWS and TAPE stay; another PLAIN, or none, goes. */
     private static void imagesAndTheRest() {
-        says("gone back to, it is as it was (these stay)");
         SecondNearest s = busy();
         SecondNearest twin = busy();
         s.image(0);
@@ -720,7 +877,6 @@ final class PlanBoundaries extends Check {
         due("back once more", s.back(0), 1);
         twin.end(0);
         due("all of it again", state(s), state(twin));
-        spoorsOfImages();
         SecondNearest eleven = on(ELEVEN, ELEVEN_LAW);
         eleven.tick(0, 10);
         eleven.image(2);
@@ -783,20 +939,35 @@ final class PlanBoundaries extends Check {
     static void run() {
         nothingChanges();
         aheadToTheLimit();
+        aheadAnswers();
         roundsToTheLimit();
-        filesAndRings();
+        roundAnswers();
+        longestFiles();
+        rings();
+        filesAnswers();
+        askedNow();
         takenAway();
+        withoutAnswers();
         leaders();
+        leaderAnswers();
         posts();
+        postAnswers();
         leads();
+        leadAnswers();
         walls();
+        wallAnswers();
         stepsBack();
-        spoors();
+        agoAnswers();
+        spoorsAsTold();
+        spoorAnswers();
         judgements();
+        judgedAnswers();
         bestLaws();
+        bestLawAnswers();
         counts();
         images();
-        imagesAndTheRest();
+        imageAnswers();
+        backAnswers();
         allCalls();
     }
 }

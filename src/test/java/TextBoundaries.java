@@ -56,9 +56,12 @@ final class TextBoundaries extends Check {
 
     // ---- promises 1 to 5
 
-    private static void aNewObject() {
+    private static void theConstant() {
         says("`NONE = -1`: None.");
         due("NONE", SecondNearest.NONE, -1);
+    }
+
+    private static void aNewObject() {
         says("No PLAIN, no LAWS.");
         SecondNearest s = new SecondNearest();
         due("all of it", state(s), "count 0 0 0 0 0 0 0 0 0 0");
@@ -73,7 +76,7 @@ final class TextBoundaries extends Check {
         due("both", s.tick(0, 1), 1);
     }
 
-    private static void feedToTheLimit() {
+    private static void feedTwentyBytes() {
         says("Twenty bytes come behind the TAPE, of each number the highest first: how many it has");
         SecondNearest s = new SecondNearest();
         due("from none", s.feed(0x726f7720, 0x2e234720, 0x3b686572, 0x616c6420, 0x30203020), 20);
@@ -83,6 +86,9 @@ final class TextBoundaries extends Check {
         due("the third a GATE", s.cell(2, 0, 0), 3);
         due("from none again", s.feed(-1, 0x80000000, 0x7fffffff, 1, 0), 20);
         due("bytes above 127", s.plain(), fault(0, 0));
+    }
+
+    private static void feedToTheLimit() {
         says("NONE, and none comes, if it would have more than 400.");
         SecondNearest t = new SecondNearest();
         tell(t, "row ..;herald 0" + times(" ", 364) + "0");
@@ -162,8 +168,19 @@ final class TextBoundaries extends Check {
         due("nor HERALD 0", s.herald(0, 0), NONE);
         due("STEPS from 0", s.tick(1, 1), 1);
         due("SPOORS from 0: nobody else to follow", s.spoor(1, 0, 1), -2);
+        due("he comes OUT", plain(s, "row G;person 0 0 2 3") + s.tick(1, 1), 2);
+        due("at STEP 1", s.person(0, 4), 1);
+        due("the same anew", plain(s, "row G;person 0 0 2 3"), 1);
+        due("nobody OUT", s.person(0, 4), NONE);
+        due("twelve on GATES", plain(s, "row GGGGGGGGGGGG" + peopleOfARow(12)) + s.tick(1, 1), 13);
+        due("the last came OUT", s.person(11, 4), 1);
+        due("twelve anew", plain(s, "row ............" + peopleOfARow(12)), 12);
+        due("the last is not OUT", s.person(11, 4), NONE);
         due("nobody", plain(s, "row ."), 0);
         due("twelve", plain(s, "row ............" + peopleOfARow(12)), 12);
+    }
+
+    private static void plainWithAFault() {
         says("-2 - its FAULT, and all stays.");
         refused("", 0, 0);
         refused("row .;person 0 0 1 1;person 0 0 1 1", 28, 5);
@@ -180,18 +197,18 @@ final class TextBoundaries extends Check {
         due("there is none still", state(u), "count 0 0 0 0 0 0 0 0 0 0");
     }
 
-    private static void sixLaws() {
+    private static void lawsOrFaults() {
         says("The TAPE, which is empty then, is a LAW: its number; -2 - its FAULT; NONE, and nothing happens: there are 6.");
-        says("LAWS 0 to 5");
         SecondNearest s = on("row ..;person 0 0 1 1;herald 1 0");
-        for (int i = 0; i < 6; i++) {
+        due("a FAULT at the end", law(s, "stand if 1=1;follow 1 if 1=1;"), fault(29, 0));
+        due("the TAPE is empty", s.count(8), 0);
+        due("no LAW", s.count(7), 0);
+        due("the next one", law(s, "follow 1 if 1=2"), 0);
+        due("the TAPE is empty", s.count(8), 0);
+        due("nothing is left of the one before", s.follows(0, 0), -2);
+        for (int i = 1; i < 6; i++) {
             due("LAW " + i, law(s, i == 5 ? "follow 1" : "stand"), i);
-            due("the TAPE is empty", s.count(8), 0);
-            due("LAWS", s.count(7), i + 1);
         }
-        due("by LAW 4", s.follows(4, 0), -2);
-        due("by LAW 5", s.follows(5, 0), 12);
-        due("by LAW 6", s.follows(6, 0), NONE);
         String before = state(s);
         due("a seventh from an empty TAPE", s.law(), NONE);
         due("all stays", state(s), before);
@@ -205,10 +222,22 @@ final class TextBoundaries extends Check {
         due("LAWS", s.count(7), 6);
         due("LAW 5 is what it was", s.follows(5, 0), 12);
         due("LAW 0 too", s.follows(0, 0), -2);
-        SecondNearest t = on("row ..;person 0 0 1 1;herald 1 0");
-        due("a FAULT at the end", law(t, "stand if 1=1;follow 1 if 1=1;"), fault(29, 0));
-        due("the next one", law(t, "follow 1 if 1=2"), 0);
-        due("nothing is left of the one before", t.follows(0, 0), -2);
+    }
+
+    private static void sixLaws() {
+        says("LAWS 0 to 5");
+        SecondNearest s = on("row ..;person 0 0 1 1;herald 1 0");
+        due("none", s.follows(0, 0), NONE);
+        for (int i = 0; i < 6; i++) {
+            due("LAW " + i, law(s, i % 2 == 0 ? "stand" : "follow 1"), i);
+            due("LAWS", s.count(7), i + 1);
+            due("by it", s.follows(i, 0), i % 2 == 0 ? -2 : 12);
+            due("by the next one", s.follows(i + 1, 0), NONE);
+        }
+        due("a seventh", law(s, "stand"), NONE);
+        due("by LAW 5", s.follows(5, 0), 12);
+        due("by LAW 6", s.follows(6, 0), NONE);
+        due("by LAW -1", s.follows(-1, 0), NONE);
     }
 
     // ---- I.: the PLAIN
@@ -267,6 +296,9 @@ final class TextBoundaries extends Check {
         refused("row .............", 16, 5);
         refused("row . .", 6, 0);
         refused("row ...... ......", 11, 0);
+    }
+
+    private static void kindsOfSigns() {
         says(". plain, # WALL, ~ POND, G GATE");
         SecondNearest s = taken("row .#~G", 0);
         for (int x = 0; x < 4; x++) {
@@ -293,10 +325,16 @@ final class TextBoundaries extends Check {
         refused("row .;person 0 0 99 -1", 20, 0);
         refused("row .;person 0 0 99", 19, 0);
         refused("row .;person 0 0 99 9 9", 22, 0);
+    }
+
+    private static void numbersOfAHerald() {
         says("herald NUMBER NUMBER (x, y)");
         due("HERALD 0", taken("row ..;herald 1 0", 0).herald(0, 0), 1);
         refused("row .;herald 0", 14, 0);
         refused("row .;herald 0 0 0", 17, 0);
+    }
+
+    private static void numbersForXAndY() {
         says("NUMBERS for x, y: 0 to 11.");
         SecondNearest t = taken(SQUARE + ";person 0 0 1 1;person 11 0 1 1;herald 0 11;herald 11 11", 2);
         due("x 11", t.person(1, 0), 11);
@@ -323,6 +361,9 @@ final class TextBoundaries extends Check {
         refused("row ..;herald 0 0;row ..", 18, 4);
         refused("row ..;row .", 11, 5);
         refused("row ..;row ...", 13, 5);
+    }
+
+    private static void peopleAndHeralds() {
         says("PEOPLE 0 to 11, HERALDS 0 and 1, in the order told.");
         SecondNearest t = taken("row ......;herald 5 0;person 4 0 1 1;herald 3 0;person 2 0 2 2", 2);
         due("PERSON 0", t.person(0, 0), 4);
@@ -354,7 +395,7 @@ final class TextBoundaries extends Check {
 
     // ---- FAULTS of a PLAIN
 
-    private static void faultsOfAPlain() {
+    private static void faultOfAByteOrWord() {
         says("0 a byte or word that can't stand there, or the end (behind the last byte; also without a row)");
         refused("", 0, 0);
         refused(" ", 1, 0);
@@ -378,6 +419,9 @@ final class TextBoundaries extends Check {
         refused("row .;personx 0 0 1 1", 6, 0);
         refused("row .;person 0;0 1 1", 14, 0);
         refused("row .;herald 0 0;;", 17, 0);
+    }
+
+    private static void faultOfANumber() {
         says("1 a NUMBER of more digits (5 at most), or not as told (at it)");
         SecondNearest s = taken("row ..;row ..;person 00001 00000 00099 00009;herald 00000 00001", 1);
         due("x of five digits", s.person(0, 0), 1);
@@ -390,7 +434,11 @@ final class TextBoundaries extends Check {
         refused("row .;herald  000000 0", 14, 1);
         refused("row .;herald 0  99999999999", 16, 1);
         refused("row .;herald 0 4294967296", 15, 1);
-        says("4 one CLAUSE too many, a 13th row, PERSON, a third HERALD, a row behind one of these, one of these ahead of the rows (at its first byte)");
+    }
+
+    private static void faultOfAClause() {
+        says("4 one CLAUSE too many, a 13th row, PERSON, a third HERALD, a row behind one of these, one of these ahead of the rows"
+            + " (at its first byte)");
         refused("row ." + times(";row .", 11) + ";  row x", 74, 4);
         refused("row ............" + peopleOfARow(12) + "; person x", 16 + 12 * 15 + 4 + 2, 4);
         refused("row ...;herald 0 0;herald 1 0; herald x", 31, 4);
@@ -401,7 +449,7 @@ final class TextBoundaries extends Check {
         refused("herald 0 0;row .", 0, 4);
     }
 
-    private static void faultsOfPlace() {
+    private static void faultOfARow() {
         says("5 a row that is not so long as the first one, a 13th SIGN (at its last SIGN; of the 13th at it)");
         due("alike", taken("row ..;row ..", 0).count(1), 2);
         refused("row ..;row .;row ..", 11, 5);
@@ -413,7 +461,11 @@ final class TextBoundaries extends Check {
         refused("row ..;row ..............", 23, 5);
         refused("row ...............", 16, 5);
         refused("row ............x", 16, 0);
-        says("a PERSON or HERALD who stands beyond the rows, on a WALL or POND, or where one stands already (at its first NUMBER, as soon as y is told)");
+    }
+
+    private static void faultOfAPlace() {
+        says("a PERSON or HERALD who stands beyond the rows, on a WALL or POND, or where one stands already"
+            + " (at its first NUMBER, as soon as y is told)");
         SecondNearest s = taken("row ...;row ...;person 2 1 1 1;herald 0 1", 1);
         due("the last CELL", s.cell(2, 1, 1), 0);
         for (String who : new String[] {"person", "herald"}) {
@@ -430,12 +482,18 @@ final class TextBoundaries extends Check {
         }
         refused("row ..;herald 0 0;person 0 0", 25, 5);
         refused("row ..;person 0 0 1 1;herald 0 0 x", 29, 5);
+    }
+
+    private static void theFirstFault() {
         says("FAULTS, the first along the text, 1 + 8 * its place and");
         refused("row x;row y", 4, 0);
         refused("row ..;row .x", 11, 5);
         refused("row ..;person 2 0 100 10", 14, 5);
         refused("row ..;person 1 0 100 10", 18, 1);
         refused("row ..;person 1 0 99 10;", 21, 1);
+    }
+
+    private static void theLeastFault() {
         says("Of one place the least.");
         refused("row ..;person 12 0 1 1", 14, 1);
         refused("row ..;person 000002 0 1 1", 14, 1);
@@ -456,10 +514,16 @@ final class TextBoundaries extends Check {
         lawRefused("", 0, 0);
         lawRefused("  ", 2, 0);
         lawTaken("stand" + times(";stand", 11));
+    }
+
+    private static void thirteenthClause() {
         says("4 a thirteenth CLAUSE (at its first byte)");
         lawRefused("stand" + times(";stand", 12), 72, 4);
         lawRefused("stand" + times(";stand", 11) + ";  follow 0", 74, 4);
         lawRefused("stand" + times(";stand", 11) + ";stand if", 72, 4);
+    }
+
+    private static void placesToFollow() {
         says("follow NUMBER [ if TEST ] (1 to 9)");
         // the one in the midst SEES eight on the CELLS beside him, and a ninth further off
         SecondNearest t = on("row ....;row ....;row ....;person 1 1 0 0;person 0 0 1 1;person 1 0 1 1;person 2 0 1 1;person 0 1 1 1"
@@ -476,11 +540,17 @@ final class TextBoundaries extends Check {
         lawRefused("follow x", 7, 0);
         lawRefused("follow 1 2", 9, 0);
         lawRefused("follow 1 if", 11, 0);
+    }
+
+    private static void standing() {
         says("stand [ if TEST ]");
         lawRefused("stand 1", 6, 0);
         lawRefused("stand if", 8, 0);
         lawRefused("stand if ;stand", 9, 0);
         lawRefused("stand iff x=1", 6, 0);
+    }
+
+    private static void faultsLikewise() {
         says("FAULTS 0, 1 likewise");
         lawRefused("row .", 0, 0);
         lawRefused("Stand", 0, 0);
@@ -490,7 +560,7 @@ final class TextBoundaries extends Check {
         lawRefused("stand if x=123456", 11, 1);
     }
 
-    private static void testsAndFacts() {
+    private static void testsAndParts() {
         says("TEST: PART { or PART }. PART: FACT { and FACT }.");
         holds("1=1 or 1=1 and 1=2", true);
         holds("1=2 and 1=1 or 1=1", true);
@@ -499,6 +569,9 @@ final class TextBoundaries extends Check {
         lawRefused("stand if x=1 and", 16, 0);
         lawRefused("stand if or x=1", 9, 0);
         lawRefused("stand if x=1 or or x=1", 16, 0);
+    }
+
+    private static void facts() {
         says("FACT: not FACT | [ TEST ] (these brackets are signs) | SUM SIGN SUM, SIGN one of < <= = >= >.");
         int[][] pairs = {{4, 5}, {5, 5}, {6, 5}};
         String[] signs = {"<", "<=", "=", ">=", ">"};
@@ -526,6 +599,9 @@ final class TextBoundaries extends Check {
         lawRefused("stand if not", 12, 0);
         lawRefused("stand if [x]=1", 11, 0);
         lawRefused("stand if x not =1", 11, 0);
+    }
+
+    private static void sumsAndTerms() {
         says("SUM: TERM { (+ or -) TERM }. TERM: VALUE { (* or / or %) VALUE }.");
         holds("7-2-1=4", true);
         holds("7-2*3=1", true);
@@ -538,7 +614,7 @@ final class TextBoundaries extends Check {
         lawRefused("stand if x*[1]=1", 11, 0);
     }
 
-    private static void valuesAndWords() {
+    private static void values() {
         says("VALUE: NUMBER (1 to 5 digits, as far as digits go on) | WORD.");
         holds("99999=99998+1", true);
         holds("00000=0", true);
@@ -547,6 +623,13 @@ final class TextBoundaries extends Check {
         lawRefused("stand if 000000=1", 9, 1);
         lawRefused("stand if 1 2=1", 11, 0);
         lawRefused("stand if 1x=1", 10, 0);
+        lawRefused("stand if 1:=1", 10, 0);
+        lawRefused("stand if :=1", 9, 0);
+        lawRefused("stand if /=1", 9, 0);
+        holds("90=89+1", true);
+    }
+
+    private static void words() {
         says("WORDS (small letters, as far as these go on) of a PERSON");
         lawTaken("stand if x=y and age=sort and seen=near and gate=beside and elder=1");
         lawRefused("stand if xx=1", 9, 0);
@@ -554,11 +637,18 @@ final class TextBoundaries extends Check {
         lawRefused("stand if ag=1", 9, 0);
         lawRefused("stand if ages=1", 9, 0);
         lawRefused("stand if agE=1", 9, 0);
+        lawRefused("stand if xa=1", 9, 0);
+        lawRefused("stand if xz=1", 9, 0);
+        lawRefused("stand if x`=1", 10, 0);
+        lawRefused("stand if x{=1", 10, 0);
         lawRefused("stand if x1=1", 10, 0);
         lawTaken("stand if not1=1");
         lawRefused("stand if notx=1", 9, 0);
         lawRefused("standif x=1", 0, 0);
         lawTaken("follow1if x=1and y=2or not[x=1]");
+    }
+
+    private static void blanks() {
         says("Blanks (32) stand between as one likes.");
         lawTaken("  follow  1  if  [  x  +  1  <=  2  ]  and  not  y  =  1  ;  stand  ");
         lawTaken("follow 1 if[x+1<=2]and not y=1;stand");
@@ -573,7 +663,7 @@ final class TextBoundaries extends Check {
         refused("row .\n", 5, 0);
     }
 
-    private static void wordsAtTheirEdges() {
+    private static void plainWords() {
         says("x, y, age, sort, seen (how many he SEES)");
         is("row ............;person 11 0 99 9;herald 10 0", "x", 11);
         is("row ..;person 0 0 0 0;herald 1 0", "x+y+age+sort", 0);
@@ -582,6 +672,9 @@ final class TextBoundaries extends Check {
         is("row ..;person 0 0 99 9;herald 1 0", "sort", 9);
         is("row ............;row ............" + peopleOfARow(12) + ";herald 0 1;herald 1 1", "seen", 13);
         is("row .#.;row ...;person 0 0 1 1;herald 0 1;herald 2 0", "seen", 1);
+    }
+
+    private static void wordNear() {
         says("near (DISTANCE to the nearest of these; 0 without any)");
         is("row ..;row ..;person 0 0 1 1;herald 1 0;herald 1 1", "near", 1);
         is("row ..;row ..;person 0 0 1 1;herald 1 1", "near", 2);
@@ -592,12 +685,18 @@ final class TextBoundaries extends Check {
         due("nobody to follow", t.follows(0, 0), -2);
         due("nobody to follow", t.follows(1, 0), -2);
         due("he stands", t.ahead(0, 200, 1), 0);
+    }
+
+    private static void wordGate() {
         says("gate (fewest STEPS to a GATE; 99 without a way)");
         is("row G.;person 0 0 1 1;herald 1 0", "gate", 0);
         is("row G.;row ..;person 1 1 1 1;herald 1 0", "gate", 1);
         is("row ..;person 0 0 1 1;herald 1 0", "gate", 99);
         is("row .~G;row .#G;person 0 0 1 1;herald 0 1", "gate", 99);
         is(LONG_WAY + ";person 0 11 1 1;herald 0 10", "gate", 66);
+    }
+
+    private static void wordBeside() {
         says("beside (how many stand on the eight CELLS beside him)");
         is("row ...;person 0 0 1 1;herald 2 0", "beside", 0);
         is("row ...;person 0 0 1 1;herald 1 0", "beside", 1);
@@ -611,6 +710,9 @@ final class TextBoundaries extends Check {
                 due("beside " + p + ": " + n, four.follows(n, p) >= 0, beside[p] == n);
             }
         }
+    }
+
+    private static void wordElder() {
         says("elder (1 if none he SEES is older, else 0)");
         StringBuilder younger = new StringBuilder("row ............");
         for (int i = 0; i < 12; i++) {
@@ -669,7 +771,11 @@ final class TextBoundaries extends Check {
         holds(times("not ", 9) + "x=0", false);
         holds(times("[1=2 or ", 10) + "x=0" + times("]", 10), true);
         holds(times("[1=1 and ", 10) + "x=1" + times("]", 10), false);
+    }
+
+    private static void tooDeep() {
         says("2 too deep (at the sign that opens, or the word not)");
+        String ten = "[not [not [not [not [not ";
         lawRefused("stand if " + times("[", 11) + "x=1" + times("]", 11), 19, 2);
         lawRefused("stand if " + times("not ", 11) + "x=1", 49, 2);
         lawRefused("stand if " + ten + "[x=1]]]]]]", 34, 2);
@@ -694,6 +800,9 @@ final class TextBoundaries extends Check {
         holds("1" + times("+1", 57) + "=58", true);
         holds("58=1" + times("+1", 57), true);
         holds("x=1" + times(" or x=1", 19), false);
+    }
+
+    private static void tooLarge() {
         says("3 one VALUE or FACT too many (at its first byte; of a FACT at its SIGN)");
         lawRefused("stand if 1" + times("+1", 58) + "= 1", 10 + 2 * 58 + 2, 3);
         lawRefused("stand if 1" + times("+1", 59) + " <=1", 10 + 2 * 59 + 1, 3);
@@ -705,25 +814,52 @@ final class TextBoundaries extends Check {
     }
 
     static void run() {
+        theConstant();
         aNewObject();
+        feedTwentyBytes();
         feedToTheLimit();
         endWithin();
         plainInPlace();
+        plainWithAFault();
+        lawsOrFaults();
         sixLaws();
         fourHundredBytes();
         mostClauses();
         signsOfARow();
+        kindsOfSigns();
         numbersOfAPerson();
+        numbersOfAHerald();
+        numbersForXAndY();
         rowsToTwelve();
+        peopleAndHeralds();
         whereTheyStand();
-        faultsOfAPlain();
-        faultsOfPlace();
+        faultOfAByteOrWord();
+        faultOfANumber();
+        faultOfAClause();
+        faultOfARow();
+        faultOfAPlace();
+        theFirstFault();
+        theLeastFault();
         clausesOfALaw();
-        testsAndFacts();
-        valuesAndWords();
-        wordsAtTheirEdges();
+        thirteenthClause();
+        placesToFollow();
+        standing();
+        faultsLikewise();
+        testsAndParts();
+        facts();
+        sumsAndTerms();
+        values();
+        words();
+        blanks();
+        plainWords();
+        wordNear();
+        wordGate();
+        wordBeside();
+        wordElder();
         sumsAtTheirEdges();
         depthOfATest();
+        tooDeep();
         sizeOfALaw();
+        tooLarge();
     }
 }

@@ -5,7 +5,8 @@ final class WalkBoundaries extends Check {
     // ---- promises 6 to 8
 
     private static void personsAnswers() {
-        says("Of a PERSON what 0: x, 1: y (NONE: he is OUT), 2: age, 3: sort, 4: the STEP at which he came OUT (NONE: not). NONE without these.");
+        says("Of a PERSON what 0: x, 1: y (NONE: he is OUT), 2: age, 3: sort, 4: the STEP at which he came OUT (NONE: not)."
+            + " NONE without these.");
         SecondNearest s = busy();
         int[][] want = {{NONE, NONE, 30, 4, 1}, {3, 0, 7, 9, NONE}};
         for (int p = 0; p < 2; p++) {
@@ -59,7 +60,7 @@ final class WalkBoundaries extends Check {
         due("of none: 0", on("row ..;person 1 0 1 1").herald(0, 0), NONE);
     }
 
-    private static void cellsAnswers() {
+    private static void kindsAndWhoStands() {
         says("Of a CELL what 0: its kind (0 plain, 1 WALL, 2 POND, 3 GATE), 1: who stands there (a PERSON; 12 and a HERALD; NONE)");
         SecondNearest s = on("row .#~G;row ..GG;person 0 0 1 1;person 3 0 1 1;herald 1 1;herald 2 1", "stand");
         int[][] kinds = {{0, 1, 2, 3}, {0, 0, 3, 3}};
@@ -74,15 +75,19 @@ final class WalkBoundaries extends Check {
         }
         s.tick(0, 1);
         due("where one came OUT nobody stands", s.cell(3, 0, 1), NONE);
+    }
+
+    private static void cellsBeyond() {
         says("2: STEPS to a GATE (99: no way; a WALL, a POND: 99). NONE without these.");
+        SecondNearest s = on("row .#~G;row ..GG;person 0 0 1 1;person 3 0 1 1;herald 1 1;herald 2 1", "stand");
         due("a WALL beside a GATE", s.cell(1, 0, 2), 99);
         due("a POND beside a GATE", s.cell(2, 0, 2), 99);
         for (int what : new int[] {-1, 3, WILD[0], WILD[1]}) {
             due("what " + what, s.cell(0, 0, what), NONE);
         }
-        for (int far1 : new int[] {-1, 4, 12, WILD[0], WILD[1]}) {
-            due("x " + far1, s.cell(far1, 0, 0), NONE);
-            due("y " + far1, s.cell(0, far1, 0), NONE);
+        for (int beyond : new int[] {-1, 4, 12, WILD[0], WILD[1]}) {
+            due("x " + beyond, s.cell(beyond, 0, 0), NONE);
+            due("y " + beyond, s.cell(0, beyond, 0), NONE);
         }
         due("the last x", s.cell(3, 0, 0), 3);
         due("the last y", s.cell(0, 1, 0), 0);
@@ -95,6 +100,9 @@ final class WalkBoundaries extends Check {
         due("y 11", t.cell(11, 11, 0), 0);
         due("y 12", t.cell(0, 12, 0), NONE);
         due("y -1", t.cell(11, -1, 0), NONE);
+    }
+
+    private static void stepsToAGate() {
         says("STEPS to a GATE: by WAYS over CELLS that are plain or GATES (whoever stands there), 0 on one.");
         due("0 on one, though somebody stands there", on("row G;person 0 0 1 1").cell(0, 0, 2), 0);
         due("1 beside", on("row .;row G").cell(0, 0, 2), 1);
@@ -116,7 +124,7 @@ final class WalkBoundaries extends Check {
         }
     }
 
-    private static void cellsAndDistances() {
+    private static void cells() {
         says("CELLS (x, y), x to the right, y downwards, by SIGNS");
         SecondNearest s = on("row .#;row ~G;row ..;herald 0 2");
         due("right of the first", s.cell(1, 0, 0), 1);
@@ -125,6 +133,9 @@ final class WalkBoundaries extends Check {
         due("the last", s.cell(1, 2, 0), 0);
         due("right of the last", s.cell(2, 1, 0), NONE);
         due("below the last", s.cell(0, 3, 0), NONE);
+    }
+
+    private static void distances() {
         says("DISTANCE of two CELLS: the square of what x differs by and that of y, together.");
         // from (0,0): 5 aslant to (2,1) is more than 4 to (0,2), 8 to (2,2) less than 9 to (3,0), and 25 is 25 both ways
         SecondNearest t = on("row ......;row ......;row ......;row ......;row ......;person 0 0 1 1;person 2 1 1 1;person 0 2 1 1"
@@ -239,6 +250,12 @@ final class WalkBoundaries extends Check {
         hiddenAt(4, 2, new int[] {3, 0, 0, 1}, 2, 0, 1, 1);
         // x 2 + (-4 + 4) by 8: 2; (-8 + 4) by 8, downwards: 1; (-12 + 4) by 8: 1
         hiddenAt(3, 5, new int[] {2, 0, 0, 4}, 2, 1, 1, 2, 1, 3);
+        // the same from CELLS that are not at the border
+        hiddenAt(5, 4, new int[] {1, 1, 3, 2}, 2, 2);
+        hiddenAt(5, 4, new int[] {3, 1, 1, 2}, 2, 2);
+        hiddenAt(4, 5, new int[] {2, 1, 1, 4}, 2, 2, 1, 3);
+        hiddenAt(4, 5, new int[] {1, 1, 2, 4}, 1, 2, 2, 3);
+        hiddenAt(4, 4, new int[] {1, 1, 2, 2});
         SecondNearest s = on(SQUARE + ";person 0 0 1 1;herald 11 11");
         due("from corner to corner", s.sees(0), 1);
         String corners = ";person 0 0 1 1;herald 11 11";
@@ -251,8 +268,8 @@ final class WalkBoundaries extends Check {
         says("Those he SEES are in order by their DISTANCE, of one DISTANCE PEOPLE ahead of HERALDS, PEOPLE the older first"
             + ", of one age by their numbers, HERALDS by their numbers.");
         // round (2,2): at 1 PERSON 1 (0), 3 (9), HERALDS 1, 0; at 2 PERSON 2 (99), 4 (99); at 4 PERSON 5
-        SecondNearest s = on("row .....;row .....;row .....;row .....;row .....;person 2 2 50 1;person 2 1 0 1;person 1 1 99 1;person 3 2 9 1"
-            + ";person 3 3 99 1;person 2 4 99 1;herald 2 3;herald 1 2");
+        SecondNearest s = on("row .....;row .....;row .....;row .....;row .....;person 2 2 50 1;person 2 1 0 1;person 1 1 99 1"
+            + ";person 3 2 9 1;person 3 3 99 1;person 2 4 99 1;herald 2 3;herald 1 2");
         due("the order", order(s, 0), "[3, 1, 12, 13, 2, 4, 5]");
         due("how many", s.sees(0), 7);
         SecondNearest t = on("row ...;row ...;row ...;person 1 1 0 0;person 0 1 5 0;person 2 1 6 0;person 1 0 5 0;person 1 2 4 0");
@@ -280,7 +297,12 @@ final class WalkBoundaries extends Check {
         due("HERALD 0", t.sees(12), 13);
         due("HERALD 1", t.sees(13), 13);
         due("who 14", t.sees(14), NONE);
+    }
+
+    private static void seenAnswers() {
         says("Who is at a place (1 and above) of those one SEES in order; -2: he SEES not so many, or is OUT; NONE without these.");
+        SecondNearest s = busy();
+        SecondNearest t = on("row ............;row ............" + peopleOfARow(12) + ";herald 0 1;herald 1 1");
         due("place 1", t.seen(11, 1), 10);
         due("place 13", t.seen(11, 13), 12);
         due("place 14", t.seen(11, 14), -2);
@@ -301,13 +323,11 @@ final class WalkBoundaries extends Check {
 
     // ---- BY HAND
 
-    private static void stays(SecondNearest s, int herald, int way, String why) {
-        String before = state(s);
-        due(why, s.goes(herald, way), false);
-        due("nothing happened: " + why, state(s), before);
+    private static void barred(String why, String plain, int herald, int way) {
+        stays("goes(" + herald + ", " + way + "): " + why, () -> on(plain, "follow 1"), s -> s.goes(herald, way) ? 1 : 0, 0);
     }
 
-    private static void byHand() {
+    private static void ways() {
         says("WAYS 0 to 7: up, up and right, right, down and right, down, down and left, left, up and left.");
         int[][] at = {{1, 0}, {2, 0}, {2, 1}, {2, 2}, {1, 2}, {0, 2}, {0, 1}, {0, 0}};
         SecondNearest s = on("row ...;row ...;row ...;herald 1 1");
@@ -318,31 +338,39 @@ final class WalkBoundaries extends Check {
             due("and back", s.goes(0, (way + 4) % 8), true);
         }
         due("he is where he was", s.cell(1, 1, 1), 12);
+    }
+
+    private static void goesAnswers() {
         says("BY HAND a HERALD goes: true; false, and nothing happens, without these.");
+        String open = "row ...;row ...;row ...;herald 1 1;person 2 2 1 1";
         for (int way : new int[] {-1, 8, 9, WILD[0], WILD[1]}) {
-            stays(s, 0, way, "WAY " + way);
+            barred("no such WAY", open, 0, way);
         }
         for (int herald : new int[] {-1, 1, 2, 12, WILD[0], WILD[1]}) {
-            stays(s, herald, 2, "HERALD " + herald);
+            barred("no such HERALD", open, herald, 2);
         }
+        barred("no HERALD", "row ...;person 1 0 1 1", 0, 2);
+        barred("HERALD 2 of two", "row ...;herald 0 0;herald 2 0", 2, 2);
         SecondNearest two = on("row ...;herald 0 0;herald 2 0");
         due("HERALD 1", two.goes(1, 6), true);
         due("he alone", two.herald(0, 0) + 10 * two.herald(1, 0), 10);
-        stays(two, 2, 2, "HERALD 2 of two");
         due("no PLAIN", new SecondNearest().goes(0, 0), false);
+    }
+
+    private static void freeCells() {
         says("FREE: a CELL that is plain or a GATE, on which nobody stands.");
-        SecondNearest t = on("row #~G;row ...;row ...;herald 1 1;person 2 1 1 1;herald 0 1", "stand", "follow 1 if x>1");
-        stays(t, 0, 7, "a WALL");
-        stays(t, 0, 0, "a POND");
-        stays(t, 0, 2, "where a PERSON stands");
-        stays(t, 0, 6, "where a HERALD stands");
+        String all = "row #~G;row ...;row ...;herald 1 1;person 2 1 1 1;herald 0 1";
+        barred("a WALL", all, 0, 7);
+        barred("a POND", all, 0, 0);
+        barred("where a PERSON stands", all, 0, 2);
+        barred("where a HERALD stands", all, 0, 6);
+        SecondNearest t = on(all);
         due("a CELL that is plain", t.goes(0, 4), true);
         due("back", t.goes(0, 0), true);
         due("a GATE", t.goes(0, 1), true);
         due("he stands there", t.cell(2, 0, 1), 12);
-        SecondNearest one = on("row .;herald 0 0");
         for (int way = 0; way <= 7; way++) {
-            stays(one, 0, way, "beyond the rows");
+            barred("beyond the rows", "row .;herald 0 0", 0, way);
         }
         SecondNearest corner = on(SQUARE + ";herald 11 5");
         for (int way = 1; way <= 3; way++) {
@@ -358,17 +386,26 @@ final class WalkBoundaries extends Check {
         due("one stands on the GATE", gate.goes(0, 6), false);
         gate.tick(0, 1);
         due("he is OUT: it is FREE", gate.goes(0, 6), true);
+    }
+
+    private static void heraldOnAGate() {
         says("BY HAND a HERALD goes by a WAY, to a FREE CELL (he does not come OUT).");
-        gate.tick(0, 200);
-        due("he is on the GATE still", gate.herald(0, 0), 0);
-        due("OUT", gate.count(5), 1);
-        due("STEPS: going BY HAND is none", gate.count(4), 201);
-        due("he goes off it", gate.goes(0, 2), true);
+        SecondNearest s = on("row G.;row ..;person 0 0 1 1;herald 1 0;person 1 1 2 2", "stand", "follow 1");
+        s.tick(0, 1);
+        due("one is OUT", s.count(5), 1);
+        due("the HERALD goes to the GATE", s.goes(0, 6), true);
+        s.tick(0, 200);
+        due("he is on it still", s.herald(0, 0), 0);
+        due("he is SEEN there", s.seen(1, 1), 12);
+        due("OUT", s.count(5), 1);
+        due("STEPS: going BY HAND is none", s.count(4), 201);
+        due("he goes off it", s.goes(0, 2), true);
+        due("where he was is FREE", s.cell(0, 0, 1), NONE);
     }
 
     // ---- STEPS
 
-    private static void whatOneDoes() {
+    private static void turns() {
         says("A STEP by a LAW: PEOPLE, by their numbers, who are there");
         // 0 has his turn first and is barred by 1; the other way round neither is
         SecondNearest first = on("row ....;person 0 0 1 1;person 1 0 1 1;herald 3 0", "follow 2 if x=0;follow 2 if x=1");
@@ -379,6 +416,9 @@ final class WalkBoundaries extends Check {
         last.tick(0, 1);
         due("0 went", last.person(0, 0), 2);
         due("1 behind him", last.person(1, 0), 1);
+    }
+
+    private static void clauses() {
         says("the first CLAUSE without a TEST, or whose TEST holds, says what he does (none: he stands)");
         SecondNearest s = on("row .....;person 2 0 1 1;herald 0 0;herald 4 0", "follow 1;follow 2", "follow 2 if x=2;follow 1",
             "follow 2 if x=3;follow 1", "follow 1 if x=3;follow 2 if x=4", "stand if x=2;follow 1", "stand;follow 1");
@@ -387,6 +427,9 @@ final class WalkBoundaries extends Check {
             due("by LAW " + law, s.follows(law, 0), want[law]);
             due("went by LAW " + law, s.ahead(law, 1, 1), want[law] < 0 ? 0 : 1);
         }
+    }
+
+    private static void placesOfTheOrder() {
         says("(as all stand then; if he SEES not so many: stands)");
         // 0 goes to x 1; then 1 has him at 4 as he has the HERALD, and PEOPLE are ahead
         SecondNearest t = on("row ......;person 0 0 1 1;person 3 0 1 1;herald 5 0", "follow 1");
@@ -399,7 +442,11 @@ final class WalkBoundaries extends Check {
         due("one more than he SEES", u.ahead(1, 1, 1), 0);
         due("the CLAUSE behind is not asked", u.ahead(2, 1, 1), 0);
         due("fewer", u.ahead(3, 1, 1), 1);
-        says("he goes to the FREE CELL beside him with the least DISTANCE to that one, of several by the least WAY, if that is less than from where he stands.");
+    }
+
+    private static void whereOneGoes() {
+        says("he goes to the FREE CELL beside him with the least DISTANCE to that one, of several by the least WAY"
+            + ", if that is less than from where he stands.");
         goesTo("row ....;row .~..;row ....;person 0 1 1 1;herald 3 1", "1,0");
         goesTo("row ....;row ..~.;row ....;person 3 1 1 1;herald 0 1", "2,2");
         goesTo("row ...;row .~.;row ...;row ...;person 1 0 1 1;herald 1 3", "2,1");
@@ -458,30 +505,21 @@ final class WalkBoundaries extends Check {
         due("1 is OUT", w.person(1, 4), 1);
     }
 
-    private static void ticks(SecondNearest s, int law, int n, String why) {
-        String before = state(s);
-        due(why, s.tick(law, n), NONE);
-        due("nothing happened: " + why, state(s), before);
-    }
-
     private static void tickToTheLimit() {
         says("So many STEPS (1 to 200) by a LAW: how many were done in all; NONE, and nothing happens, without these (no PLAIN).");
-        SecondNearest s = on("row .G..;row ~#..;person 0 0 30 4;person 3 1 7 9;herald 2 0", "follow 1", "stand");
         for (int n : new int[] {0, -1, 201, WILD[0], WILD[1]}) {
-            ticks(s, 0, n, "STEPS " + n);
+            stays("tick(0, " + n + ")", Check::busy, s -> s.tick(0, n), NONE);
         }
         for (int law : new int[] {-1, 2, 5, 6, WILD[0], WILD[1]}) {
-            ticks(s, law, 1, "LAW " + law);
+            stays("tick(" + law + ", 1)", Check::busy, s -> s.tick(law, 1), NONE);
         }
+        stays("tick(0, 1) without a PLAIN", () -> withLaw("stand"), s -> s.tick(0, 1), NONE);
+        stays("tick(0, 1) without a LAW", () -> on("row .;person 0 0 1 1"), s -> s.tick(0, 1), NONE);
+        SecondNearest s = on("row .G..;row ~#..;person 0 0 30 4;person 3 1 7 9;herald 2 0", "follow 1", "stand");
         due("1", s.tick(1, 1), 1);
         due("200", s.tick(1, 200), 201);
         due("by the other LAW", s.tick(0, 1), 202);
         due("OUT at", s.person(0, 4), 202);
-        due("no PLAIN", withLaw("stand").tick(0, 1), NONE);
-        due("no LAW", on("row .").tick(0, 1), NONE);
-        SecondNearest none = withLaw("stand");
-        none.tick(0, 1);
-        due("no STEPS without a PLAIN", none.count(4), 0);
         // 200 at once are 200 one by one
         SecondNearest a = PlanBoundaries.late(0);
         SecondNearest b = PlanBoundaries.late(0);
@@ -519,15 +557,25 @@ final class WalkBoundaries extends Check {
     static void run() {
         personsAnswers();
         heraldsAnswers();
-        cellsAnswers();
-        cellsAndDistances();
+        kindsAndWhoStands();
+        cellsBeyond();
+        stepsToAGate();
+        cells();
+        distances();
         firstAndLast();
         nothingBetween();
         linesOfSight();
         theOrder();
         seesAnswers();
-        byHand();
-        whatOneDoes();
+        seenAnswers();
+        ways();
+        goesAnswers();
+        freeCells();
+        heraldOnAGate();
+        turns();
+        clauses();
+        placesOfTheOrder();
+        whereOneGoes();
         behindHisTurn();
         tickToTheLimit();
         followsAnswers();
