@@ -620,6 +620,8 @@ final class TextBoundaries extends Check {
         holds("00000=0", true);
         lawTaken("stand if 0=99999");
         lawRefused("stand if 100000=1", 9, 1);
+        lawRefused("stand if 100000 1", 9, 1);
+        lawRefused("stand if x+100000 1=1", 11, 1);
         lawRefused("stand if 000000=1", 9, 1);
         lawRefused("stand if 1 2=1", 11, 0);
         lawRefused("stand if 1x=1", 10, 0);

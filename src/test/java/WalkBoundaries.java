@@ -264,6 +264,52 @@ final class WalkBoundaries extends Check {
         due("not at (10,11)", seesOn(oneWall(12, 12, 10, 11) + corners), 1);
     }
 
+    /** The sentence on lines of sight told a second time: whether no CELL between two is a WALL. */
+    private static boolean isOpen(String[] rows, int ax, int ay, int bx, int by) {
+        boolean lesser = 12 * ay + ax < 12 * by + bx;
+        int x = lesser ? ax : bx;
+        int y = lesser ? ay : by;
+        int dx = (lesser ? bx : ax) - x;
+        int dy = (lesser ? by : ay) - y;
+        int n = Math.max(Math.abs(dx), Math.abs(dy));
+        for (int k = 1; k < n; k++) {
+            int cx = x + (int) Math.floor((2.0 * k * dx + n) / (2.0 * n));
+            int cy = y + (int) Math.floor((2.0 * k * dy + n) / (2.0 * n));
+            if (rows[cy].charAt(cx) == '#') {
+                return false;
+            }
+        }
+        return true;
+    }
+
+    /** A HERALD goes along every other row, and SEES just those of twelve PEOPLE between the rows to whom the line is open. */
+    private static void sightsOfAWanderer() {
+        says("One SEES another one (PERSON or HERALD who is there, not himself), if none of the CELLS between is a WALL");
+        String[] rows = {"............", "....##.#.##.", "............", "..#.#..##..#", "............", "#.##....#.#.", "............",
+            "...#.##.#.#.", "............", "##...#..##..", "............", ".#..#....#.."};
+        int[][] people = {{0, 1}, {1, 1}, {2, 1}, {3, 1}, {6, 1}, {1, 3}, {9, 5}, {7, 7}, {4, 9}, {6, 9}, {10, 11}, {0, 11}};
+        StringBuilder text = new StringBuilder("row ").append(String.join(";row ", rows));
+        for (int[] p : people) {
+            text.append(";person ").append(p[0]).append(' ').append(p[1]).append(" 0 0");
+        }
+        SecondNearest s = on(text + ";herald 0 0");
+        int x = 0;
+        int y = 0;
+        for (int i = 0; i < 76; i++) {
+            int want = 0;
+            for (int[] p : people) {
+                want += isOpen(rows, x, y, p[0], p[1]) ? 1 : 0;
+            }
+            due("from " + x + "," + y, s.sees(12), want);
+            boolean right = y % 4 == 0;
+            int way = y % 2 == 1 || x == (right ? 11 : 0) ? 4 : right ? 2 : 6;
+            due("on from " + x + "," + y, s.goes(0, way), true);
+            x += way == 2 ? 1 : way == 6 ? -1 : 0;
+            y += way == 4 ? 1 : 0;
+        }
+        due("he is at the end", s.cell(x, y, 1), 12);
+    }
+
     private static void theOrder() {
         says("Those he SEES are in order by their DISTANCE, of one DISTANCE PEOPLE ahead of HERALDS, PEOPLE the older first"
             + ", of one age by their numbers, HERALDS by their numbers.");
@@ -565,6 +611,7 @@ final class WalkBoundaries extends Check {
         firstAndLast();
         nothingBetween();
         linesOfSight();
+        sightsOfAWanderer();
         theOrder();
         seesAnswers();
         seenAnswers();
