@@ -457,29 +457,23 @@ public final class SecondNearest {
                 end++;
             }
             int number = 0;
-            int from = 0;
-            for (int i = 0; i <= list.length() && end > start; i++) {
+            int at = start;
+            boolean alike = true;
+            for (int i = 0; i <= list.length(); i++) {
                 if (i < list.length() && list.charAt(i) != ' ') {
+                    alike = alike && at < end && bytes[at] == list.charAt(i);
+                    at++;
                     continue;
                 }
-                if (i - from == end - start && isAlike(start, list, from, i)) {
+                if (alike && at == end) {
                     place = end;
                     return number;
                 }
-                from = i + 1;
                 number++;
+                at = start;
+                alike = true;
             }
             return NONE;
-        }
-
-        private boolean isAlike(int start, String list, int from, int to) {
-            for (int i = from; i < to && i < list.length(); i++) {
-                int where = start + i - from;
-                if (where >= ROOM || bytes[where] != list.charAt(i)) {
-                    return false;
-                }
-            }
-            return true;
         }
 
         boolean onDigit() {

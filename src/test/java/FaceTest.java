@@ -12,12 +12,6 @@ import java.util.TreeSet;
 
 /** The class shows the document's face and no more, keeps to the rules of the language that can be looked up, and makes nothing in calls. */
 public final class FaceTest extends Check {
-    private static final String[] FACE = {
-        "int feed(int,int,int,int,int)", "int end(int)", "int plain()", "int law()", "int person(int,int)", "int herald(int,int)",
-        "int cell(int,int,int)", "int sees(int)", "int seen(int,int)", "boolean goes(int,int)", "int tick(int,int)",
-        "int follows(int,int)", "int ahead(int,int,int)", "int round(int,int)", "int files(int,int)", "int without(int,int,int)",
-        "int leader(int,int,int)", "int post(int,int,int)", "int lead(int,int,int,int)", "int wall(int,int)", "int ago(int)",
-        "int spoor(int,int,int)", "int judged(int)", "int bestLaw(int)", "int count(int)", "int image(int)", "int back(int)"};
     private static final String[] FORBIDDEN = {"\\bthrow\\b", "\\btry\\b", "\\bcatch\\b", "\\bsynchronized\\b", "\\bassert\\b", "->", "::",
         "\\bstatic \\{", "\\bprotected\\b", "Exact\\(", "\\bvar\\b", "@"};
 
@@ -35,28 +29,53 @@ public final class FaceTest extends Check {
         for (Class<?> c : m.getParameterTypes()) {
             types.add(c.getName());
         }
-        return m.getReturnType().getName() + " " + m.getName() + "(" + String.join(",", types) + ")";
+        return Modifier.toString(m.getModifiers()) + " " + m.getReturnType().getName() + " " + m.getName() + "("
+            + String.join(",", types) + ")";
     }
 
-    private static void checkFace() {
-        TreeSet<String> want = new TreeSet<>(List.of(FACE));
+    private static String told(Field f) throws IllegalAccessException {
+        return Modifier.toString(f.getModifiers()) + " " + f.getType().getName() + " " + f.getName() + " = " + f.get(null);
+    }
+
+    /** The lines of the document's first code block between the braces, without the names of parameters. */
+    private static TreeSet<String> faceOfDocument() {
+        String document = document();
+        int from = document.indexOf("```java");
+        int to = document.indexOf("```", from + 7);
+        must(from >= 0 && to > from, "the document has a code block");
+        TreeSet<String> face = new TreeSet<>();
+        for (String line : document.substring(Math.max(from, 0), Math.max(to, 0)).split("\n")) {
+            if (line.startsWith("    ")) {
+                face.add(line.strip().replace(";", "").replaceAll("(\\w+) \\w+([,)]) ?", "$1$2"));
+            }
+        }
+        return face;
+    }
+
+    private static void checkFace() throws IllegalAccessException {
         TreeSet<String> got = new TreeSet<>();
         TreeSet<String> names = new TreeSet<>();
         for (Method m : SecondNearest.class.getDeclaredMethods()) {
             if (!Modifier.isPrivate(m.getModifiers())) {
                 got.add(told(m));
                 names.add(m.getName());
-                must(Modifier.isPublic(m.getModifiers()) && !Modifier.isStatic(m.getModifiers()), m + " is public and of objects");
             }
         }
-        must(want.equals(got), "the methods are those of the document: " + got);
         for (Field f : SecondNearest.class.getDeclaredFields()) {
-            must(Modifier.isPrivate(f.getModifiers()) || f.getName().equals("NONE"), f + " is private");
+            if (!Modifier.isPrivate(f.getModifiers())) {
+                got.add(told(f));
+            }
             must(!Modifier.isStatic(f.getModifiers()) || Modifier.isFinal(f.getModifiers()), f + " is final");
         }
-        Constructor<?>[] constructors = SecondNearest.class.getDeclaredConstructors();
-        must(constructors.length == 1 && constructors[0].getParameterCount() == 0, "one constructor");
-        must(Modifier.isFinal(SecondNearest.class.getModifiers()), "the class is final");
+        for (Constructor<?> c : SecondNearest.class.getDeclaredConstructors()) {
+            got.add(c.toString());
+        }
+        TreeSet<String> want = faceOfDocument();
+        must(want.size() == 29, "a constant, a constructor and 27 methods: " + want);
+        must(want.equals(got), "what can be seen of the class is the document's code block: " + got + ", due is " + want);
+        must(SecondNearest.class.getModifiers() == (Modifier.PUBLIC | Modifier.FINAL), "the class is public and final");
+        must(SecondNearest.class.getSuperclass() == Object.class && SecondNearest.class.getInterfaces().length == 0,
+            "the class has nothing from others");
         checkInside(names);
     }
 
@@ -123,7 +142,7 @@ public final class FaceTest extends Check {
         must(s.count(0) == 0, "it is new");
     }
 
-    public static void main(String[] args) throws IOException {
+    public static void main(String[] args) throws IOException, IllegalAccessException {
         checkFace();
         checkSource();
         checkRoom();
